@@ -384,7 +384,7 @@ public final class IceTrade {
         if (!store.rooms.has(room)) {
             return answer(NO_SUCH);
         }
-        if (heaped.number > store.rooms.size(room) || heaped.number > MOST_BLOCKS - store.blocks.number) {
+        if (heaped.number > store.rooms.size[room] || heaped.number > MOST_BLOCKS - store.blocks.number) {
             return answer(TOO_MANY);
         }
         if (heaped.number == 0 || !store.rooms.isAllLaid(room) || !store.rooms.isBare(room)) {
@@ -604,7 +604,7 @@ public final class IceTrade {
 
     private void cutHeapInto(int room) {
         int told = 0;
-        int size = store.rooms.size(room);
+        int size = store.rooms.size[room];
         for (int place = 0; place < size && told < heaped.number; place++) {
             if (packer.isChosen(place)) {
                 store.cutBlock(room, place, heaped.kind[told], heaped.grams[told]);
@@ -669,6 +669,9 @@ public final class IceTrade {
         final int[] rows = new int[MOST_ROOMS];
         final int[] layers = new int[MOST_ROOMS];
         final int[] in = new int[MOST_ROOMS];
+        /** Places in a layer, and in all. */
+        final int[] floor = new int[MOST_ROOMS];
+        final int[] size = new int[MOST_ROOMS];
         final int[] led = new int[MOST_ROOMS];
         final int[] standing = new int[MOST_ROOMS];
         /** Counted as they come and go, since every loss asks for them. */
@@ -685,15 +688,14 @@ public final class IceTrade {
             copy(other.rows, rows);
             copy(other.layers, layers);
             copy(other.in, in);
+            copy(other.floor, floor);
+            copy(other.size, size);
             copy(other.led, led);
             copy(other.standing, standing);
             copy(other.salts, salts);
             copy(other.floorDrains, floorDrains);
             copy(other.laid, laid);
-            for (int room = 0; room < number; room++) {
-                int first = room * MOST_PLACES;
-                System.arraycopy(other.cells, first, cells, first, size(room));
-            }
+            System.arraycopy(other.cells, 0, cells, 0, number * MOST_PLACES);
         }
 
         private void copy(int[] from, int[] to) {
@@ -711,6 +713,8 @@ public final class IceTrade {
             rows[room] = itsRows;
             layers[room] = itsLayers;
             in[room] = inRoom;
+            floor[room] = itsWidth * itsRows;
+            size[room] = floor[room] * itsLayers;
             led[room] = 0;
             standing[room] = 0;
             salts[room] = 0;
@@ -724,16 +728,8 @@ public final class IceTrade {
             return room;
         }
 
-        int floorSize(int room) {
-            return width[room] * rows[room];
-        }
-
-        int size(int room) {
-            return floorSize(room) * layers[room];
-        }
-
         boolean hasPlace(int room, int place) {
-            return has(room) && place >= 0 && place < size(room);
+            return has(room) && place >= 0 && place < size[room];
         }
 
         int rowOf(int room, int place) {
@@ -750,7 +746,8 @@ public final class IceTrade {
 
         /** Beyond the room there is nothing. */
         int at(int room, int place) {
-            return hasPlace(room, place) ? cells[room * MOST_PLACES + place] : NOTHING;
+            boolean isThere = room >= 0 && room < number && place >= 0 && place < size[room];
+            return isThere ? cells[room * MOST_PLACES + place] : NOTHING;
         }
 
         void fill(int room, int place, int what) {
@@ -764,15 +761,15 @@ public final class IceTrade {
         }
 
         int above(int room, int place) {
-            return at(room, place + floorSize(room));
+            return at(room, place + floor[room]);
         }
 
         boolean isOnFloor(int room, int place) {
-            return place < floorSize(room);
+            return place < floor[room];
         }
 
         boolean bears(int room, int place) {
-            int beneath = at(room, place - floorSize(room));
+            int beneath = at(room, place - floor[room]);
             return isOnFloor(room, place) || beneath == STRAW || beneath >= FIRST_BLOCK;
         }
 
@@ -806,8 +803,7 @@ public final class IceTrade {
 
         int freeOnesIn(int room) {
             int free = 0;
-            int size = size(room);
-            for (int place = 0; place < size; place++) {
+            for (int place = 0; place < size[room]; place++) {
                 if (isFreeBlock(room, place)) {
                     free++;
                 }
@@ -825,7 +821,7 @@ public final class IceTrade {
             }
             int beneath = place;
             for (int i = 1; i < MOST_LAYERS; i++) {
-                beneath -= floorSize(room);
+                beneath -= floor[room];
                 if (at(room, beneath) == DRAIN) {
                     return true;
                 }
@@ -883,7 +879,7 @@ public final class IceTrade {
         }
 
         boolean isSalt(int block) {
-            return has(block) && kind[block] == SALT;
+            return block >= 0 && block < number && kind[block] == SALT;
         }
 
         boolean isInRoom(int block) {
@@ -1043,11 +1039,11 @@ public final class IceTrade {
         int lossOf(Store store, int block, int warmth) {
             int room = store.blocks.room[block];
             int place = store.blocks.place[block];
-            sides.look(store, room, place);
-            int grams = warmth > 0 ? rateOf(store.blocks.kind[block]) * warmth : 0;
-            int loss = sides.air * grams + sides.straw * (grams * part / 100);
-            if (store.rooms.standsInWater(room, place)) {
-                loss += wet;
+            int loss = store.rooms.standsInWater(room, place) ? wet : 0;
+            if (warmth > 0) {
+                int grams = rateOf(store.blocks.kind[block]) * warmth;
+                sides.look(store, room, place);
+                loss += sides.air * grams + sides.straw * (grams * part / 100);
             }
             return Math.min(loss, store.blocks.grams[block]);
         }
@@ -1124,7 +1120,7 @@ public final class IceTrade {
             int found = NONE;
             int greatest = 0;
             int foundLayer = 0;
-            int floor = store.rooms.floorSize(room);
+            int floor = store.rooms.floor[room];
             for (int layer = 0; layer < store.rooms.layers[room]; layer++) {
                 for (int place = layer * floor; place < (layer + 1) * floor; place++) {
                     if (store.rooms.isFreeBlock(room, place)) {
@@ -1143,7 +1139,7 @@ public final class IceTrade {
 
         int airSidesIn(Store store, int room) {
             int air = 0;
-            int size = store.rooms.size(room);
+            int size = store.rooms.size[room];
             for (int place = 0; place < size; place++) {
                 if (store.rooms.at(room, place) >= FIRST_BLOCK) {
                     sides.look(store, room, place);
@@ -1332,7 +1328,7 @@ public final class IceTrade {
             this.width = rooms.width[room];
             this.rows = rooms.rows[room];
             layers = rooms.layers[room];
-            size = Math.min(rooms.size(room), MOST_PLACES);
+            size = Math.min(rooms.size[room], MOST_PLACES);
             for (int place = 0; place < size; place++) {
                 chosen[place] = false;
             }

@@ -7,6 +7,7 @@ public final class BookTest {
         linesAreAltered();
         theDayAsItWas();
         booksWithoutLines();
+        threeHundredLines();
         DUE.end();
     }
 
@@ -83,6 +84,28 @@ public final class BookTest {
         x.cut(0, 0, 0, 5000);
         DUE.due("check()", x.check(), -1);
         DUE.due("line(0, 4)", x.line(0, 4), 1800);
+    }
+
+    private static void threeHundredLines() {
+        IceTrade x = new IceTrade();
+        Due.laidRoom(x, 5, 6, 6, 5);
+        Due.laidRoom(x, 5, 6, 6, 5);
+        for (int r = 0; r < 8; r++) {
+            x.room(0, 1, 1, 1, -1);
+        }
+        Due.warm(x, 0, 60f);
+        for (int i = 0; i < 300; i++) {
+            x.cut(i % 2, i / 2, 0, 100000);
+        }
+        x.terms(0, 10000, 1);
+        DUE.due("those in the middle lose nothing", x.block(86, 8), 0);
+        x.day();
+        int lines = x.count(13);
+        DUE.holds("but most lose", lines > 180);
+        DUE.due("the last one", x.line(lines - 1, 0), 299);
+        x.alter(lines - 1, 5, 1);
+        DUE.due("check()", x.check(), lines - 1);
+        DUE.due("line(lines, 0)", x.line(lines, 0), -2);
     }
 
     private static void booksWithoutLines() {

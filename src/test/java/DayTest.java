@@ -130,6 +130,7 @@ public final class DayTest {
         DUE.due("a drain in layer 1", x.put(0, 3, 1), 0);
         int standing = x.rooms(0, 9);
         DUE.due("another day", x.day(), 1800 + 1800 + 1800);
+        DUE.due("melted in all", x.count(4), 3600 + 6420 + 5400);
         DUE.due("led off beneath in the column", x.rooms(0, 8), 1800);
         DUE.due("the other column's stands", x.rooms(0, 9), standing + 1800);
         DUE.due("count(6)", x.count(6), 1800 * 4);

@@ -9,6 +9,7 @@ public final class ForetellTest {
         howManyDays();
         whenNothingIsLeft();
         roomsThatThereWereThen();
+        eightRooms();
         DUE.end();
     }
 
@@ -140,6 +141,23 @@ public final class ForetellTest {
         DUE.due("what is refused changes nothing", x.last(), 4);
         x.take(0, 1);
         DUE.due("the latest foretell()", x.last(), 4);
+    }
+
+    private static void eightRooms() {
+        IceTrade x = new IceTrade();
+        for (int r = 0; r < 8; r++) {
+            Due.laidRoom(x, 0, 1, 1, 1);
+            x.cut(r, 0, 0, 10000 + r);
+        }
+        Due.warm(x, 0, 1f);
+        x.foretell(3, 0);
+        for (int i = 0; i <= 3; i++) {
+            DUE.due("all", x.foretold(-1, i), 80028 - 8 * 180 * i);
+            for (int r = 0; r < 8; r++) {
+                DUE.due("room " + r, x.foretold(r, i), 10000 + r - 180 * i);
+            }
+            DUE.due("room 8", x.foretold(8, i), -1);
+        }
     }
 
     private static void roomsThatThereWereThen() {

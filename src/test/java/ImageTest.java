@@ -72,6 +72,7 @@ public final class ImageTest {
         x.day();
         x.take(1, 1);
         x.cut(2, 0, 0, 9000);
+        x.terms(40, 200, 25000);
         x.put(1, 3, 1);
         x.clear(0, 3);
         x.clear(1, 1);
@@ -138,8 +139,12 @@ public final class ImageTest {
         Due.warm(x, 0, 10f);
         x.put(0, 0, 1);
         x.cut(0, 1, 2, 5000);
-        x.cut(0, 3, 0, 5000);
+        x.cut(0, 3, 0, 9000);
         x.day();
+        x.clear(0, 0);
+        x.day();
+        DUE.holds("some is led off and some stands", x.rooms(0, 8) > 0 && x.rooms(0, 9) > 0);
+        x.put(0, 0, 1);
         x.back(0);
         DUE.due("rooms(0, 0)", x.rooms(0, 0), -2);
         DUE.due("room", x.room(5, 2, 2, 2, -1), 0);
@@ -150,6 +155,7 @@ public final class ImageTest {
         }
         DUE.due("rooms(0, 5)", x.rooms(0, 5), 90);
         DUE.due("rooms(0, 8)", x.rooms(0, 8), 0);
+        DUE.due("rooms(0, 9)", x.rooms(0, 9), 0);
         x.cut(0, 0, 0, 5000);
         DUE.due("no drain in its layer 0", x.block(0, 8), 6 * 270 + 200);
     }

@@ -9,6 +9,8 @@ public final class PackTest {
         theFirstOfThose();
         blockByBlock();
         whatIsPackedIsCut();
+        oneBehindTheOther();
+        whatLiesHighUp();
         DUE.end();
     }
 
@@ -107,12 +109,44 @@ public final class PackTest {
     /** The ninth block, a width of 4, or a third layer: then one by one. */
     private static void blockByBlock() {
         packs(4, 2, 1, 4, 18, 0, 1, 2, 3);
+        packs(3, 4, 1, 4, 18, 0, 1, 2, 3);
+        packs(3, 3, 3, 4, 18, 0, 1, 2, 3);
         packs(2, 4, 1, 4, 16, 0, 1, 2, 3);
         packs(2, 2, 3, 8, 24, 0, 1, 2, 3, 4, 5, 6, 7);
         packs(3, 1, 3, 4, 18, 0, 1, 2, 3);
         packs(3, 3, 2, 9, 30, 0, 1, 2, 3, 4, 5, 6, 7, 8);
         packs(1, 1, 5, 5, 22, 0, 1, 2, 3, 4);
         packs(3, 3, 2, 18, 42, 0, 1, 2, 3, 4, 5, 6, 7, 8, 9, 10, 11, 12, 13, 14, 15, 16, 17);
+    }
+
+    /** What was packed before leaves nothing behind. */
+    private static void oneBehindTheOther() {
+        IceTrade y = new IceTrade();
+        for (int r = 0; r < 6; r++) {
+            Due.laidRoom(y, 0, r % 2 == 0 ? 4 : 3, 3, 2);
+            int n = (r % 2 == 0 ? 11 : 4) - r / 2;
+            for (int i = 0; i < n; i++) {
+                y.heap(0, 1000);
+            }
+            y.pack(r);
+            int[] found = places(y, r);
+            DUE.due("blocks in " + r, found.length, n);
+            DUE.due("the lowest in " + r, found[0], 0);
+            DUE.due("the highest in " + r, found[n - 1], r % 2 == 0 || n < 4 ? n - 1 : 4);
+        }
+    }
+
+    private static void whatLiesHighUp() {
+        IceTrade x = new IceTrade();
+        Due.laidRoom(x, 0, 1, 3, 3);
+        Due.warm(x, 0, 20f);
+        x.cut(0, 2, 0, 1000);
+        x.cut(0, 5, 0, 1000);
+        x.cut(0, 8, 0, 90000);
+        x.day();
+        DUE.due("rooms(0, 6)", x.rooms(0, 6), 1);
+        x.heap(0, 1000);
+        DUE.due("it holds something", x.pack(0), -7);
     }
 
     private static void whatIsPackedIsCut() {

@@ -45,9 +45,15 @@ public final class PlacesTest {
         IceTrade x = new IceTrade();
         Due.laidRoom(x, 0, 6, 6, 5);
         Due.laidRoom(x, 0, 6, 6, 5);
-        for (int i = 0; i < 300; i++) {
+        for (int i = 0; i < 299; i++) {
             DUE.due("cut " + i, x.cut(i / 180, i % 180, 0, 1000000), i);
         }
+        x.image(0);
+        Due.laidRoom(x, 0, 1, 1, 1);
+        x.heap(0, 1000);
+        DUE.due("the last one by a heap", x.pack(2), 6);
+        x.back(0);
+        DUE.due("cut 299", x.cut(1, 119, 0, 1000000), 299);
         DUE.due("one more", x.cut(1, 120, 0, 1000), -6);
         DUE.due("one more where it can't be", x.cut(1, 0, 0, 1000), -4);
         DUE.due("count(1)", x.count(1), 300000000);

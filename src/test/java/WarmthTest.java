@@ -79,6 +79,7 @@ public final class WarmthTest {
         Due.warm(x, 1, -4f);
         DUE.due("carried on again", x.tenths(2), -40);
         DUE.due("not backwards", x.tenths(0), 0);
+        DUE.due("up to the last day", x.tenths(199), -40);
     }
 
     private static void warmthOfKinds() {

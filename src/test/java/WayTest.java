@@ -137,9 +137,11 @@ public final class WayTest {
         IceTrade x = new IceTrade();
         Due.laidRoom(x, 0, 2, 1, 2);
         x.price(0, 100);
+        x.price(2, 10);
         x.cut(0, 0, 0, 10000);
         x.cut(0, 2, 2, 10000);
         DUE.due("send(0, 5000)", x.send(0, 5000), 1);
+        DUE.due("sent(2)", x.sent(2), 100);
         DUE.due("send(0, 10001)", x.send(0, 10001), -6);
         DUE.due("sent(0)", x.sent(0), 1);
         DUE.due("sent(1)", x.sent(1), 0);
@@ -157,7 +159,10 @@ public final class WayTest {
         DUE.due("send(0, 100000000)", x.send(0, 100000000), -6);
         DUE.due("sent(0)", x.sent(0), 99990000);
         DUE.due("send(0, 10000)", x.send(0, 10000), 1);
+        DUE.due("sent(0)", x.sent(0), 0);
         DUE.due("sent(2)", x.sent(2), 1000);
+        DUE.due("take() leaves it", x.take(0, 1), -6);
+        DUE.due("sent(1)", x.sent(1), 10000);
     }
 
     private static void bills() {
