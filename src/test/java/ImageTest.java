@@ -138,7 +138,7 @@ public final class ImageTest {
         Due.laidRoom(x, 5, 2, 2, 2);
         Due.warm(x, 0, 10f);
         x.put(0, 0, 1);
-        x.cut(0, 1, 2, 5000);
+        x.cut(0, 1, 2, 90000);
         x.cut(0, 3, 0, 9000);
         x.day();
         x.clear(0, 0);
