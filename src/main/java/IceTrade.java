@@ -277,7 +277,8 @@ public final class IceTrade {
     public int home() {
         int stretches = journey.stretches;
         journey.stretches = 0;
-        return answer(stretches);
+        // nothing refuses this call, so what the latest one of the others was refused by stays
+        return stretches;
     }
 
     public int comes(int room, int n) {

@@ -5,7 +5,7 @@ public final class StatusTest {
     public static void main(String[] args) {
         whatWasRefused();
         askingCallsLeaveIt();
-        othersSetIt();
+        homeLeavesIt();
         DUE.end();
     }
 
@@ -74,12 +74,20 @@ public final class StatusTest {
         }
     }
 
-    /** home() is none of the asking calls, so it was not refused. */
-    private static void othersSetIt() {
+    /** Nothing refuses home(), so it is not one of the calls that may be refused. */
+    private static void homeLeavesIt() {
         IceTrade x = new IceTrade();
-        x.pack(0);
-        DUE.due("status()", x.status(), -2);
         x.home();
-        DUE.due("status() behind home()", x.status(), 0);
+        DUE.due("status() behind home() alone", x.status(), 0);
+        x.pack(0);
+        x.home();
+        DUE.due("status() behind home() without stretches", x.status(), -2);
+        x.way(3, 2);
+        x.way(0, 2);
+        DUE.due("home()", x.home(), 1);
+        DUE.due("status() behind home() with one stretch", x.status(), -1);
+        x.way(4, 2);
+        x.home();
+        DUE.due("status() behind home(), the latest one not refused", x.status(), 0);
     }
 }

@@ -59,7 +59,7 @@ public final class WildTest {
         return t;
     }
 
-    /** Those below 20 may be refused; send() is not among them, as what it was short of is told. */
+    /** Those below 20, but for home(), may be refused; send() is not among them, as what it was short of is told. */
     private static int call(IceTrade x, int call) {
         int a = wild(), b = wild(), c = wild();
         switch (call) {
