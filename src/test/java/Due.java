@@ -1,23 +1,38 @@
 /** Counts and prints answers that are not the ones that are due. */
 final class Due {
+    private String sentence = "";
+    private int sentences;
     private int wrong;
+
+    /** The sentence of the document that the answers from here on are held against; where is a promise, or a term. */
+    void says(String where, String itsSentence) {
+        sentence = " [" + where + ": " + itsSentence + "]";
+        sentences++;
+    }
 
     void due(String call, long got, long want) {
         if (got != want) {
             wrong++;
-            System.out.println(call + " answered " + got + ", due is " + want);
+            System.out.println(call + " answered " + got + ", due is " + want + sentence);
         }
+    }
+
+    /** An answer of a call that may be refused, and what status() tells behind it. */
+    void told(IceTrade x, String call, int got, int want) {
+        due(call, got, want);
+        due("status() behind " + call, x.status(), Math.min(want, 0));
     }
 
     void holds(String what, boolean isSo) {
         if (!isSo) {
             wrong++;
-            System.out.println("does not hold: " + what);
+            System.out.println("does not hold: " + what + sentence);
         }
     }
 
     void end() {
-        System.out.println(wrong == 0 ? "all answers are as due" : wrong + " answers are not as due");
+        String held = sentences == 0 ? "" : ", held against " + sentences + " sentences";
+        System.out.println((wrong == 0 ? "all answers are as due" : wrong + " answers are not as due") + held);
         if (wrong != 0) {
             System.exit(1);
         }
@@ -41,5 +56,12 @@ final class Due {
 
     static int warm(IceTrade x, int day, float degrees) {
         return x.warm(day, Float.floatToRawIntBits(degrees));
+    }
+
+    /** Lets so many days go by. */
+    static void days(IceTrade x, int n) {
+        for (int i = 0; i < n; i++) {
+            x.day();
+        }
     }
 }
