@@ -4,10 +4,15 @@ final class Due {
     private int sentences;
     private int wrong;
 
-    /** The sentence of the document that the answers from here on are held against; where is a promise, or a term. */
+    /** The sentence of the document that the answers from here on are held against; [..] stands for what is left out. */
     void says(String where, String itsSentence) {
         sentence = " [" + where + ": " + itsSentence + "]";
         sentences++;
+    }
+
+    /** A sentence, and which of its edges it is. */
+    void says(String where, String itsSentence, String edge) {
+        says(where, itsSentence + " -- " + edge);
     }
 
     void due(String call, long got, long want) {

@@ -97,7 +97,7 @@ public final class EdgesOfANewObjectTest {
     }
 
     private static void pricesAtFirst() {
-        DUE.says("Promise 24", "(0 .. 5000; 0 at first)");
+        DUE.says("Promise 24", "The PRICE of a kind for a kilo is cents (0 .. 5000; 0 at first)", "0 at first");
         for (int kind = 0; kind <= 2; kind++) {
             IceTrade x = new IceTrade();
             Due.laidRoom(x, 0, 1, 1, 1);

@@ -36,7 +36,9 @@ public final class EdgesOfDaysTest {
         termsThatAreRefused();
         howManyMelted();
         theLastDay();
+        asTodayIs199();
         counts();
+        countsOfAllRooms();
         otherCounts();
         DUE.end();
     }
@@ -72,8 +74,8 @@ public final class EdgesOfDaysTest {
     }
 
     private static void sixSides() {
-        DUE.says("III", "SIDES of a BLOCK, six: the PLACES left and right (x), before and behind (y), beneath and above (z):"
-            + " shut where a BLOCK lies");
+        DUE.says("III", "SIDES of a BLOCK, six: the PLACES left and right (x), before and behind (y), beneath and"
+            + " above (z): shut where a BLOCK lies");
         for (int place = 0; place < 27; place++) {
             if (place != 13 && place != 4) {
                 IceTrade x = withMiddle(0, 10f);
@@ -90,7 +92,8 @@ public final class EdgesOfDaysTest {
     }
 
     private static void rowsDoNotWrapAround() {
-        DUE.says("III", "else in air (.. beyond the ROOM): the last PLACE of a row is not beside the first one of the next");
+        DUE.says("III", "else in air (nothing, a DRAIN, a ROW that is not LAID, beyond the ROOM)",
+            "the last PLACE of a row is not beside the first one of the next");
         IceTrade x = withRoom(0, 3, 2, 1, 10f);
         x.cut(0, 2, 0, 50000);
         x.cut(0, 3, 0, 50000);
@@ -106,7 +109,8 @@ public final class EdgesOfDaysTest {
     }
 
     private static void layersDoNotWrapAround() {
-        DUE.says("III", "else in air (.. beyond the ROOM): the last row of a layer is not before the first one of the next");
+        DUE.says("III", "else in air (nothing, a DRAIN, a ROW that is not LAID, beyond the ROOM)",
+            "the last row of a layer is not before the first one of the next");
         IceTrade x = withRoom(0, 1, 2, 2, 10f);
         x.cut(0, 0, 0, 50000);
         x.cut(0, 2, 0, 50000);
@@ -134,7 +138,8 @@ public final class EdgesOfDaysTest {
     }
 
     private static void elseInAir() {
-        DUE.says("III", "else in air (nothing, a DRAIN, .., beyond the ROOM)");
+        DUE.says("III", "else in air (nothing, a DRAIN, a ROW that is not LAID, beyond the ROOM)",
+            "nothing, a DRAIN, beyond the ROOM");
         IceTrade x = withRoom(0, 3, 1, 1, 10f);
         x.cut(0, 1, 0, 50000);
         DUE.due("two of nothing, four beyond the room", x.block(0, 6), 6);
@@ -148,7 +153,7 @@ public final class EdgesOfDaysTest {
     }
 
     private static void rowsThatAreNotLaid() {
-        DUE.says("III", "else in air (.. a ROW that is not LAID ..)");
+        DUE.says("III", "else in air (nothing, a DRAIN, a ROW that is not LAID, beyond the ROOM)", "a ROW that is not LAID");
         IceTrade x = new IceTrade();
         x.room(0, 1, 3, 2, -1);
         x.lay(0, 0, 1);
@@ -242,10 +247,20 @@ public final class EdgesOfDaysTest {
             x.put(0, drain + 4, 1);
             DUE.due("nor one in layer 1", x.block(0, 8), 200);
         }
+        IceTrade y = withRoom(5, 3, 1, 1, -60f);
+        y.cut(0, 0, 0, 50000);
+        y.put(0, 1, 1);
+        y.put(0, 2, 1);
+        y.clear(0, 1);
+        DUE.due("one of two is left", y.block(0, 8), 0);
+        y.clear(0, 2);
+        DUE.due("none of two", y.block(0, 8), 200);
+        y.put(0, 1, 1);
+        DUE.due("one again", y.block(0, 8), 0);
     }
 
     private static void wetInFrost() {
-        DUE.says("III", "its sides in air times GRAMS, .. and WET if it stands in water (each for itself)");
+        DUE.says("III", "its sides in air times GRAMS, [..] and WET if it stands in water", "each for itself");
         IceTrade x = withRoom(5, 1, 1, 1, -8f);
         x.cut(0, 0, 0, 50000);
         DUE.due("WARMTH 0", x.block(0, 8), 200);
@@ -316,7 +331,7 @@ public final class EdgesOfDaysTest {
     }
 
     private static void belowLeastWithoutLoss() {
-        DUE.says("III", "what is below LEAST then is GONE (of one that lost nothing too)");
+        DUE.says("III", "what is below LEAST then is GONE", "one that lost nothing");
         IceTrade x = withRoom(0, 2, 1, 1, -60f);
         x.cut(0, 0, 0, 5000);
         x.cut(0, 1, 0, 5001);
@@ -438,10 +453,18 @@ public final class EdgesOfDaysTest {
         y.cut(0, 1, 1, 50000);
         y.day();
         DUE.due("spoilt by salt beneath", y.block(1, 5), 0);
+        IceTrade z = withRoom(0, 6, 1, 1, -60f);
+        z.cut(0, 3, 1, 50000);
+        z.cut(0, 4, 2, 50000);
+        z.cut(0, 0, 1, 50000);
+        z.day();
+        DUE.due("the one beside it", z.block(0, 5), 0);
+        DUE.due("another one", z.block(2, 5), -1);
     }
 
     private static void saltThatWrapsAround() {
-        DUE.says("III", "a SALT one lies at one of its sides (not the last PLACE of a row and the first one of the next)");
+        DUE.says("III", "a SALT one lies at one of its sides",
+            "the last PLACE of a row is not beside the first one of the next");
         IceTrade x = withRoom(0, 2, 2, 1, -60f);
         x.cut(0, 1, 1, 50000);
         x.cut(0, 2, 2, 50000);
@@ -540,7 +563,7 @@ public final class EdgesOfDaysTest {
     }
 
     private static void termsThatAreRefused() {
-        DUE.says("REFUSED", "What is REFUSED changes nothing (terms: none of the three, whichever is wrong)");
+        DUE.says("REFUSED", "What is REFUSED changes nothing but status()", "terms: none of the three, whichever is wrong");
         int[][] bad = {{101, 0, 1}, {0, 10001, 1}, {0, 0, 0}};
         for (int[] b : bad) {
             IceTrade x = withRoom(5, 3, 1, 1, 2f);
@@ -585,8 +608,23 @@ public final class EdgesOfDaysTest {
         DUE.due("the BOOK is that of day 198", x.line(0, 5), grams);
     }
 
+    private static void asTodayIs199() {
+        DUE.says("I", "DAYS 0 .. 199; TODAY is 0 at first", "TODAY is 199");
+        IceTrade x = withRoom(0, 2, 1, 1, -60f);
+        Due.warm(x, 199, 10f);
+        Due.days(x, 199);
+        DUE.due("WARMTH TODAY", x.rooms(0, 5), 100);
+        DUE.due("cut", x.cut(0, 0, 0, 5000), 0);
+        DUE.due("the day on which it was cut", x.block(0, 4), 199);
+        DUE.due("LOSS TODAY", x.block(0, 8), 1800);
+        x.cut(0, 1, 2, 5000);
+        DUE.due("THE NEXT", x.next(0), 1);
+        DUE.due("take(0, 2)", x.take(0, 2), 10000);
+    }
+
     private static void counts() {
-        DUE.says("Promise 15", "TODAY (0), .. of the latest TAKEN or SENT ones (15) (the greatest ones)");
+        DUE.says("Promise 15", "TODAY (0), grams CUT (1), [..] of the latest TAKEN or SENT ones (15)",
+            "the greatest numbers");
         IceTrade x = new IceTrade();
         Due.laidRoom(x, 0, 6, 6, 5);
         Due.laidRoom(x, 0, 6, 5, 4);
@@ -611,6 +649,36 @@ public final class EdgesOfDaysTest {
             x.heap(0, 1000);
         }
         DUE.due("blocks of the heap", x.count(14), 30);
+    }
+
+    /** In rooms 0, 2, 4 and 6 the loss stands, in the others it is led off. */
+    private static void countsOfAllRooms() {
+        DUE.says("Promise 15", "grams CUT (1), in ROOMS (2), SOLD (3), MELTED (4), GONE (5), LED (6), STANDING (7)",
+            "of 8 ROOMS");
+        IceTrade x = new IceTrade();
+        Due.warm(x, 0, 1f);
+        for (int room = 0; room < 8; room++) {
+            Due.laidRoom(x, 0, 3, 1, 1);
+            x.cut(room, 0, 0, 5000 << room);
+            x.cut(room, 2, 0, 1000 + room);
+            if (room % 2 == 1) {
+                x.put(room, 1, 1);
+            }
+        }
+        int large = 5000 * 255;
+        int small = 8 * 1000 + 28;
+        DUE.due("CUT", x.count(1), large + small);
+        DUE.due("in ROOMS", x.count(2), large + small);
+        DUE.due("day()", x.day(), 16 * 180);
+        DUE.due("MELTED", x.count(4), 16 * 180);
+        DUE.due("GONE", x.count(5), small - 8 * 180);
+        DUE.due("LED", x.count(6), 8 * 180);
+        DUE.due("STANDING", x.count(7), 8 * 180);
+        for (int room = 0; room < 8; room++) {
+            DUE.due("SOLD from " + room, x.take(room, 1), (5000 << room) - 180);
+        }
+        DUE.due("SOLD", x.count(3), large - 8 * 180);
+        DUE.due("in ROOMS", x.count(2), 0);
     }
 
     private static void otherCounts() {

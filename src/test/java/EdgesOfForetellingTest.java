@@ -17,6 +17,7 @@ public final class EdgesOfForetellingTest {
         aheadOfTheFirst();
         daysThatAreNone();
         allRooms();
+        theEighthRoom();
         roomsThatAreNone();
         roomsThatThereWereThen();
         foretoldAheadOfAny();
@@ -37,7 +38,7 @@ public final class EdgesOfForetellingTest {
     }
 
     private static void howManyDays() {
-        DUE.says("Promise 25", "DAYS (1 .. 200) are FORETOLD .. -1");
+        DUE.says("Promise 25", "DAYS (1 .. 200) are FORETOLD by BACK (0 .. 199): how many were. -1", "DAYS");
         IceTrade x = withBlock(5000);
         int[] bad = {0, -1, 201, WILD[0], WILD[1]};
         for (int days : bad) {
@@ -49,7 +50,7 @@ public final class EdgesOfForetellingTest {
     }
 
     private static void howFarBack() {
-        DUE.says("Promise 25", "by BACK (0 .. 199) .. -1");
+        DUE.says("Promise 25", "DAYS (1 .. 200) are FORETOLD by BACK (0 .. 199): how many were. -1", "BACK");
         IceTrade x = withBlock(5000);
         int[] bad = {-1, 200, WILD[0], WILD[1]};
         for (int back : bad) {
@@ -60,7 +61,7 @@ public final class EdgesOfForetellingTest {
     }
 
     private static void noMoreThanDayWould() {
-        DUE.says("V", "(no more than day() would); Promise 25: how many were");
+        DUE.says("V", "(no more than day() would)", "the last ones");
         IceTrade x = withBlock(5000);
         Due.days(x, 196);
         DUE.told(x, "two of three", x.foretell(2, 0), 2);
@@ -72,7 +73,7 @@ public final class EdgesOfForetellingTest {
     }
 
     private static void onTheLastDay() {
-        DUE.says("V", "(no more than day() would): TODAY is 199");
+        DUE.says("V", "(no more than day() would)", "TODAY is 199");
         IceTrade x = withBlock(5000);
         Due.days(x, 199);
         DUE.told(x, "foretell(1, 0)", x.foretell(1, 0), 0);
@@ -113,7 +114,7 @@ public final class EdgesOfForetellingTest {
     }
 
     private static void ofDayNought() {
-        DUE.says("V", "(of day 0 if there is none ..)");
+        DUE.says("V", "of day 0 if there is none");
         IceTrade x = withBlock(50000);
         for (int day = 0; day < 5; day++) {
             Due.warm(x, day, 1 + day);
@@ -160,22 +161,23 @@ public final class EdgesOfForetellingTest {
     private static void allIsAsItWas() {
         DUE.says("V", "all is then as it was");
         IceTrade x = new IceTrade();
-        Due.laidRoom(x, 5, 2, 1, 1);
+        Due.laidRoom(x, 0, 2, 1, 1);
         Due.warm(x, 0, 10f);
         x.cut(0, 0, 1, 5000);
-        x.cut(0, 1, 2, 50000);
         x.day();
+        x.cut(0, 1, 2, 50000);
         int[] before = all(x);
         x.foretell(200, 0);
         int[] behind = all(x);
         for (int i = 0; i < before.length; i++) {
             DUE.due("answer " + i, behind[i], before[i]);
         }
-        DUE.due("last()", x.last() > 1 ? 1 : 0, 1);
+        DUE.due("it is not spoilt, though it would be", x.block(0, 5), -1);
+        DUE.holds("all would be gone", x.last() > 1);
     }
 
     private static int[] all(IceTrade x) {
-        int[] a = new int[16 + 12 + 20 + 2 + 12 + 1];
+        int[] a = new int[16 + 12 + 20 + 2 + 12 + 2];
         int n = 0;
         for (int what = 0; what <= 15; what++) {
             a[n++] = x.count(what);
@@ -191,12 +193,13 @@ public final class EdgesOfForetellingTest {
         for (int i = 0; i < 12; i++) {
             a[n++] = x.line(i / 6, i % 6);
         }
+        a[n++] = x.next(0);
         a[n] = x.check();
         return a;
     }
 
     private static void refusedOnesForetellNothing() {
-        DUE.says("REFUSED", "What is REFUSED changes nothing but status() (foretell)");
+        DUE.says("REFUSED", "What is REFUSED changes nothing but status()", "foretell");
         IceTrade x = withBlock(5000);
         x.foretell(2, 0);
         x.take(0, 1);
@@ -224,7 +227,7 @@ public final class EdgesOfForetellingTest {
     }
 
     private static void daysThatAreNone() {
-        DUE.says("Promise 26", "-1 if there is none such (days)");
+        DUE.says("Promise 26", "-1 if there is none such", "days");
         IceTrade x = withBlock(5000);
         x.foretell(9, 0);
         x.foretell(3, 0);
@@ -254,10 +257,28 @@ public final class EdgesOfForetellingTest {
         DUE.due("ahead of the first", x.foretold(-1, 0), 8000000);
         DUE.due("behind the first", x.foretold(-1, 1), 8000000);
         DUE.due("behind the second", x.foretold(-1, 2), 8 * (1000000 - 180));
+        x.foretell(2, 0);
+        DUE.due("foretold again", x.foretold(-1, 2), 8 * (1000000 - 180));
+    }
+
+    private static void theEighthRoom() {
+        DUE.says("Promise 26", "what a ROOM holds behind day i of it", "each of 8 ROOMS");
+        IceTrade x = new IceTrade();
+        Due.warm(x, 0, 1f);
+        for (int room = 0; room < 8; room++) {
+            Due.laidRoom(x, 0, 1, 1, 1);
+            x.cut(room, 0, 0, 100000 + room);
+        }
+        x.foretell(3, 0);
+        for (int i = 0; i <= 3; i++) {
+            for (int room = 0; room < 8; room++) {
+                DUE.due("foretold(" + room + ", " + i + ")", x.foretold(room, i), 100000 + room - 180 * i);
+            }
+        }
     }
 
     private static void roomsThatAreNone() {
-        DUE.says("Promise 26", "-1 if there is none such (ROOMS)");
+        DUE.says("Promise 26", "-1 if there is none such", "ROOMS");
         IceTrade x = withBlock(5000);
         x.foretell(1, 0);
         int[] none = {-2, 1, 8, WILD[0], WILD[1]};
@@ -284,7 +305,7 @@ public final class EdgesOfForetellingTest {
     }
 
     private static void foretoldAheadOfAny() {
-        DUE.says("Promise 26", "-1 if there is none such (ahead of any foretell())");
+        DUE.says("Promise 26", "-1 if there is none such", "ahead of any foretell()");
         IceTrade x = withBlock(5000);
         DUE.due("foretold(0, 0)", x.foretold(0, 0), -1);
         DUE.due("foretold(-1, 0)", x.foretold(-1, 0), -1);

@@ -20,6 +20,7 @@ public final class EdgesOfImagesTest {
         nothingElse();
         againAndAgain();
         numbersComeAgain();
+        imagesOfOtherThings();
         fullOnes();
         DUE.end();
     }
@@ -85,7 +86,7 @@ public final class EdgesOfImagesTest {
     }
 
     private static void keptAnew() {
-        DUE.says("Promise 30", "Kept as IMAGE k (one that was kept already)");
+        DUE.says("Promise 30", "Kept as IMAGE k (0 .. 3): 0", "one that was kept already");
         IceTrade x = new IceTrade();
         x.image(0);
         x.image(1);
@@ -99,7 +100,7 @@ public final class EdgesOfImagesTest {
     }
 
     private static void anEmptyImage() {
-        DUE.says("V", "back() makes all that as it was (an object without ROOMS)");
+        DUE.says("V", "back() makes all that as it was", "an object without ROOMS");
         IceTrade x = new IceTrade();
         x.image(3);
         Due.laidRoom(x, 5, 2, 1, 2);
@@ -150,7 +151,9 @@ public final class EdgesOfImagesTest {
         x.take(0, 2);
         x.cut(0, 1, 0, 5000);
         x.cut(1, 0, 2, 6000);
+        x.terms(40, 200, 5000);
         x.day();
+        x.terms(40, 200, 1000);
     }
 
     private static int[] answers(IceTrade x, int which) {
@@ -189,7 +192,7 @@ public final class EdgesOfImagesTest {
     }
 
     private static void todayAndGrams() {
-        DUE.says("V", "IMAGES 0 .. 3 have TODAY, .. CUT, SOLD, MELTED, GONE, LED and STANDING grams");
+        DUE.says("V", "IMAGES 0 .. 3 have TODAY, [..] CUT, SOLD, MELTED, GONE, LED and STANDING grams");
         IceTrade x = furnished();
         for (int what = 0; what <= 7; what++) {
             DUE.holds("there is something of " + what, x.count(what) > 0);
@@ -198,17 +201,17 @@ public final class EdgesOfImagesTest {
     }
 
     private static void roomsWithWhatTheyHold() {
-        DUE.says("V", "IMAGES 0 .. 3 have .. all ROOMS with what they hold");
+        DUE.says("V", "IMAGES 0 .. 3 have [..] all ROOMS with what they hold");
         comesBack(1);
     }
 
     private static void blocks() {
-        DUE.says("V", "IMAGES 0 .. 3 have .. all BLOCKS");
+        DUE.says("V", "IMAGES 0 .. 3 have [..] all BLOCKS");
         comesBack(2);
     }
 
     private static void theBookIsEmpty() {
-        DUE.says("V", "back() makes .. THE BOOK empty");
+        DUE.says("V", "back() makes all that as it was, and THE BOOK empty");
         IceTrade x = furnished();
         x.image(0);
         DUE.holds("there are lines", x.count(13) > 0);
@@ -223,7 +226,7 @@ public final class EdgesOfImagesTest {
     }
 
     private static void refusedOnesLeaveTheBook() {
-        DUE.says("REFUSED", "What is REFUSED changes nothing but status() (back)");
+        DUE.says("REFUSED", "What is REFUSED changes nothing but status()", "back");
         IceTrade x = furnished();
         int lines = x.count(13);
         x.back(1);
@@ -235,7 +238,7 @@ public final class EdgesOfImagesTest {
     }
 
     private static void nothingElse() {
-        DUE.says("V", "back() makes all that as it was (and nothing else)");
+        DUE.says("V", "back() makes all that as it was", "and nothing else");
         IceTrade x = furnished();
         x.image(0);
         Due.warm(x, 2, 7f);
@@ -266,7 +269,7 @@ public final class EdgesOfImagesTest {
     }
 
     private static void againAndAgain() {
-        DUE.says("Promise 31", "As IMAGE k was (again and again)");
+        DUE.says("Promise 31", "As IMAGE k was: 0", "again and again");
         IceTrade x = new IceTrade();
         Due.laidRoom(x, 0, 2, 1, 1);
         Due.warm(x, 0, 1f);
@@ -283,7 +286,7 @@ public final class EdgesOfImagesTest {
     }
 
     private static void numbersComeAgain() {
-        DUE.says("V", "back() makes all that as it was: numbers of ROOMS and BLOCKS are free again");
+        DUE.says("V", "back() makes all that as it was", "numbers of ROOMS and BLOCKS are free again");
         IceTrade x = new IceTrade();
         x.image(0);
         Due.laidRoom(x, 5, 2, 1, 2);
@@ -292,6 +295,10 @@ public final class EdgesOfImagesTest {
         x.cut(0, 1, 2, 50000);
         x.cut(0, 3, 1, 50000);
         x.day();
+        x.clear(0, 0);
+        x.day();
+        DUE.holds("some is led off and some stands", x.rooms(0, 8) > 0 && x.rooms(0, 9) > 0);
+        x.put(0, 0, 1);
         x.back(0);
         DUE.told(x, "a room", x.room(5, 2, 1, 2, -1), 0);
         DUE.due("its row is not laid", x.place(0, 0), -3);
@@ -308,8 +315,51 @@ public final class EdgesOfImagesTest {
         DUE.due("not spoilt", x.block(0, 5), -1);
     }
 
+    /** Between the two images the same numbers are borne by other rooms and blocks, and all else differs too. */
+    private static void imagesOfOtherThings() {
+        DUE.says("V", "back() makes all that as it was", "from one IMAGE to another");
+        IceTrade x = new IceTrade();
+        x.image(0);
+        Due.warm(x, 0, 10f);
+        x.day();
+        x.room(3, 1, 1, 1, -1);
+        x.room(5, 2, 1, 2, -1);
+        x.room(2, 1, 1, 1, 1);
+        Due.layAll(x, 1);
+        Due.layAll(x, 2);
+        x.cut(1, 0, 1, 50000);
+        x.cut(2, 0, 0, 1000);
+        x.cut(1, 1, 2, 40000);
+        x.day();
+        x.take(1, 1);
+        x.image(1);
+        int[][] then = {answers(x, 0), answers(x, 1), answers(x, 2)};
+        x.back(0);
+        Due.laidRoom(x, 4, 3, 2, 1);
+        x.room(2, 1, 2, 3, 0);
+        x.room(0, 2, 2, 1, -1);
+        Due.layAll(x, 2);
+        x.cut(0, 5, 2, 1000000);
+        x.cut(0, 2, 1, 20000);
+        x.cut(2, 3, 0, 30000);
+        x.put(0, 0, 1);
+        x.day();
+        x.day();
+        x.day();
+        x.back(1);
+        for (int which = 0; which <= 2; which++) {
+            int[] again = answers(x, which);
+            for (int i = 0; i < again.length; i++) {
+                DUE.due("answer " + i + " of " + which, again[i], then[which][i]);
+            }
+        }
+        DUE.due("the inner one is in room 1", x.rooms(2, 4), 1);
+        DUE.due("it was cut on day 1", x.block(0, 4), 1);
+        DUE.due("it was spoilt on day 1", x.block(0, 5), 1);
+    }
+
     private static void fullOnes() {
-        DUE.says("V", "IMAGES .. have .. all ROOMS with what they hold, all BLOCKS (8 ROOMS, 300 BLOCKS)");
+        DUE.says("V", "IMAGES 0 .. 3 have TODAY, all ROOMS with what they hold, all BLOCKS", "8 ROOMS, 300 BLOCKS");
         IceTrade x = new IceTrade();
         Due.laidRoom(x, 0, 6, 6, 5);
         for (int room = 1; room < 7; room++) {

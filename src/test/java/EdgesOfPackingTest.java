@@ -20,6 +20,7 @@ public final class EdgesOfPackingTest {
         theyAreCutThen();
         oneBlock();
         aFullRoom();
+        oneBehindTheOther();
         packInNoRoom();
         notSoManyPlaces();
         notSoManyBlocksEver();
@@ -52,7 +53,7 @@ public final class EdgesOfPackingTest {
     }
 
     private static void thirtyInAHeap() {
-        DUE.says("VI", "HEAP: up to 30 weights and kinds; Promise 28: how many .. -6");
+        DUE.says("VI", "HEAP: up to 30 weights and kinds that are told for pack()", "Promise 28: -6");
         IceTrade x = new IceTrade();
         for (int i = 1; i <= 30; i++) {
             DUE.told(x, "heap " + i, x.heap(i % 3, 1000 * i), i);
@@ -66,7 +67,7 @@ public final class EdgesOfPackingTest {
     }
 
     private static void kindsInAHeap() {
-        DUE.says("Promise 28", "A weight and kind more for the HEAP .. -1 (kind)");
+        DUE.says("Promise 28", "A weight and kind more for the HEAP: how many; -1; -6", "kind");
         IceTrade x = new IceTrade();
         int[] bad = {-1, 3, WILD[0], WILD[1]};
         for (int kind : bad) {
@@ -78,7 +79,8 @@ public final class EdgesOfPackingTest {
     }
 
     private static void gramsInAHeap() {
-        DUE.says("Promise 28", "A weight and kind more for the HEAP .. -1 (weight: 1000 .. 1000000)");
+        DUE.says("Promise 28", "A weight and kind more for the HEAP: how many; -1; -6",
+            "weight, 1000 to 1000000 as of cut()");
         IceTrade x = new IceTrade();
         int[] bad = {999, 1000001, 0, -1000, WILD[0], WILD[1]};
         for (int grams : bad) {
@@ -90,7 +92,7 @@ public final class EdgesOfPackingTest {
     }
 
     private static void theOrderOfHeap() {
-        DUE.says("REFUSED", "The first of these in that order (heap: -1 ahead of -6)");
+        DUE.says("REFUSED", "The first of these in that order", "heap: -1 ahead of -6");
         IceTrade x = new IceTrade();
         heap(x, 30);
         DUE.told(x, "one more of no kind", x.heap(3, 1000), -1);
@@ -98,7 +100,7 @@ public final class EdgesOfPackingTest {
     }
 
     private static void atMostEight() {
-        DUE.says("VI", "with at most 8 BLOCKS, .. all ways are gone through ..; else BLOCK by BLOCK");
+        DUE.says("VI", "with at most 8 BLOCKS, [..] all ways are gone through [..]; else BLOCK by BLOCK", "8 and 9 BLOCKS");
         packed(3, 2, 2, 7, 24, 0, 1, 3, 4, 6, 7, 9);
         packed(3, 2, 2, 8, 24, 0, 1, 3, 4, 6, 7, 9, 10);
         packed(3, 2, 2, 9, 30, 0, 1, 2, 3, 4, 5, 6, 7, 8);
@@ -107,21 +109,21 @@ public final class EdgesOfPackingTest {
     }
 
     private static void widthAtMostThree() {
-        DUE.says("VI", "width .. at most 3");
+        DUE.says("VI", "width and rows at most 3", "width 3 and 4");
         packed(3, 1, 2, 4, 16, 0, 1, 3, 4);
         packed(4, 1, 2, 4, 18, 0, 1, 2, 3);
         packed(6, 1, 2, 4, 18, 0, 1, 2, 3);
     }
 
     private static void rowsAtMostThree() {
-        DUE.says("VI", "and rows at most 3");
+        DUE.says("VI", "width and rows at most 3", "rows 3 and 4");
         packed(1, 3, 2, 4, 16, 0, 1, 3, 4);
         packed(1, 4, 2, 4, 18, 0, 1, 2, 3);
         packed(1, 6, 2, 4, 18, 0, 1, 2, 3);
     }
 
     private static void layersAtMostTwo() {
-        DUE.says("VI", "layers at most 2");
+        DUE.says("VI", "layers at most 2", "layers 2 and 3");
         packed(3, 1, 2, 4, 16, 0, 1, 3, 4);
         packed(3, 1, 3, 4, 18, 0, 1, 2, 3);
         packed(3, 3, 1, 4, 16, 0, 1, 3, 4);
@@ -149,7 +151,8 @@ public final class EdgesOfPackingTest {
     }
 
     private static void mostSidesShut() {
-        DUE.says("VI", "else BLOCK by BLOCK in the PLACE .. that has the most sides shut then, of these the lowest one");
+        DUE.says("VI", "else BLOCK by BLOCK in the PLACE with something to lie on that has the most sides shut"
+            + " then, of these the lowest one");
         // as many sides are shut in the lowest free place as in any other: the floor fills row by row, then layer 1
         packed(5, 2, 1, 6, 26, 0, 1, 2, 3, 4, 5);
         packed(5, 2, 1, 7, 28, 0, 1, 2, 3, 4, 5, 6);
@@ -193,7 +196,7 @@ public final class EdgesOfPackingTest {
     }
 
     private static void theyAreCutThen() {
-        DUE.says("VI", "They are cut then; Promise 29: The HEAP is PACKED into a ROOM, and empty then");
+        DUE.says("VI", "They are cut then", "Promise 29: and empty then");
         IceTrade x = new IceTrade();
         Due.laidRoom(x, 0, 1, 1, 1);
         Due.laidRoom(x, 0, 2, 1, 1);
@@ -216,17 +219,40 @@ public final class EdgesOfPackingTest {
     }
 
     private static void oneBlock() {
-        DUE.says("Promise 29", "how many sides of its BLOCKS are in air (one BLOCK)");
+        DUE.says("Promise 29", "how many sides of its BLOCKS are in air", "one BLOCK");
         packed(1, 1, 1, 1, 6, 0);
         packed(6, 6, 5, 1, 6, 0);
     }
 
     private static void aFullRoom() {
-        DUE.says("Promise 29", "how many sides of its BLOCKS are in air (a full ROOM)");
+        DUE.says("Promise 29", "how many sides of its BLOCKS are in air", "a full ROOM");
         packed(3, 3, 2, 18, 2 * 9 + 4 * 6, 0, 1, 2, 3, 4, 5, 6, 7, 8, 9, 10, 11, 12, 13, 14, 15, 16, 17);
         packed(5, 6, 1, 30, 2 * 30 + 2 * 11);
         packed(3, 2, 5, 30, 2 * 6 + 5 * 10);
         packed(2, 2, 2, 8, 24, 0, 1, 2, 3, 4, 5, 6, 7);
+    }
+
+    /** What an earlier pack() chose has no part in a later one, of whichever of both ways they are. */
+    private static void oneBehindTheOther() {
+        DUE.says("Promise 29", "The HEAP is PACKED into a ROOM, and empty then", "one HEAP behind the other");
+        IceTrade x = new IceTrade();
+        Due.laidRoom(x, 0, 5, 2, 1);
+        Due.laidRoom(x, 0, 4, 2, 1);
+        Due.laidRoom(x, 0, 3, 1, 2);
+        heap(x, 9);
+        DUE.told(x, "nine block by block", x.pack(0), 32);
+        heap(x, 2);
+        DUE.told(x, "two block by block", x.pack(1), 10);
+        DUE.due("in place 0", x.place(1, 0), 19);
+        DUE.due("in place 1", x.place(1, 1), 20);
+        DUE.due("in place 2", x.place(1, 2), 0);
+        heap(x, 4);
+        DUE.told(x, "four by all ways", x.pack(2), 16);
+        x.take(1, 2);
+        heap(x, 1);
+        DUE.told(x, "one block by block", x.pack(1), 6);
+        DUE.due("in place 0", x.place(1, 0), 25);
+        DUE.due("in place 3", x.place(1, 3), 0);
     }
 
     private static void packInNoRoom() {
@@ -243,7 +269,7 @@ public final class EdgesOfPackingTest {
     }
 
     private static void notSoManyPlaces() {
-        DUE.says("Promise 29", "-6: not so many PLACES");
+        DUE.says("Promise 29", "-6: not so many PLACES, or BLOCKS ever", "PLACES");
         IceTrade x = new IceTrade();
         Due.laidRoom(x, 0, 2, 2, 1);
         Due.laidRoom(x, 0, 5, 1, 1);
@@ -256,7 +282,7 @@ public final class EdgesOfPackingTest {
     }
 
     private static void notSoManyBlocksEver() {
-        DUE.says("Promise 29", "-6: not so many .. BLOCKS ever");
+        DUE.says("Promise 29", "-6: not so many PLACES, or BLOCKS ever", "BLOCKS ever");
         IceTrade x = new IceTrade();
         Due.laidRoom(x, 0, 6, 6, 5);
         Due.laidRoom(x, 0, 6, 6, 5);
@@ -283,7 +309,7 @@ public final class EdgesOfPackingTest {
     }
 
     private static void theHeapIsEmpty() {
-        DUE.says("Promise 29", "-7: the HEAP is empty");
+        DUE.says("Promise 29", "-7: the HEAP is empty, a ROW is not LAID, or the ROOM holds something", "the HEAP is empty");
         IceTrade x = new IceTrade();
         Due.laidRoom(x, 0, 2, 1, 1);
         DUE.told(x, "pack(0)", x.pack(0), -7);
@@ -294,7 +320,7 @@ public final class EdgesOfPackingTest {
     }
 
     private static void aRowIsNotLaid() {
-        DUE.says("Promise 29", "-7: .. a ROW is not LAID");
+        DUE.says("Promise 29", "-7: the HEAP is empty, a ROW is not LAID, or the ROOM holds something", "a ROW is not LAID");
         for (int missing = 0; missing < 3; missing++) {
             IceTrade x = new IceTrade();
             x.room(0, 2, 3, 2, -1);
@@ -319,7 +345,8 @@ public final class EdgesOfPackingTest {
     }
 
     private static void theRoomHoldsSomething() {
-        DUE.says("Promise 29", "-7: .. the ROOM holds something");
+        DUE.says("Promise 29", "-7: the HEAP is empty, a ROW is not LAID, or the ROOM holds something",
+            "the ROOM holds something");
         for (int what = 0; what <= 2; what++) {
             for (int place = 0; place < 6; place++) {
                 IceTrade x = new IceTrade();
@@ -344,10 +371,20 @@ public final class EdgesOfPackingTest {
         y.day();
         y.heap(0, 1000);
         DUE.told(y, "one that stayed in the highest layer", y.pack(0), -7);
+        IceTrade z = new IceTrade();
+        Due.laidRoom(z, 0, 1, 6, 5);
+        for (int layer = 0; layer < 5; layer++) {
+            z.cut(0, 5 + 6 * layer, 0, layer == 4 ? 5000 : 1000);
+        }
+        z.terms(40, 200, 1001);
+        z.day();
+        DUE.due("it lies in the last place alone", z.place(0, 29), 14);
+        z.heap(0, 1000);
+        DUE.told(z, "one in the last of 30 rows", z.pack(0), -7);
     }
 
     private static void theOrderOfPack() {
-        DUE.says("REFUSED", "The first of these in that order (pack)");
+        DUE.says("REFUSED", "The first of these in that order", "pack");
         IceTrade x = new IceTrade();
         x.room(0, 1, 1, 1, -1);
         DUE.told(x, "-2 ahead of -7: an empty heap", x.pack(1), -2);
@@ -360,7 +397,7 @@ public final class EdgesOfPackingTest {
     }
 
     private static void refusedOnesKeepTheHeap() {
-        DUE.says("REFUSED", "What is REFUSED changes nothing but status() (pack)");
+        DUE.says("REFUSED", "What is REFUSED changes nothing but status()", "pack");
         IceTrade x = new IceTrade();
         x.room(0, 2, 1, 1, -1);
         x.heap(2, 7000);

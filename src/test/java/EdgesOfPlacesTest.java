@@ -50,7 +50,7 @@ public final class EdgesOfPlacesTest {
     }
 
     private static void kindsOfBlocks() {
-        DUE.says("Promise 6", "A BLOCK of a kind (0 .. 2); -1 kind");
+        DUE.says("Promise 6", "A BLOCK of a kind (0 .. 2)", "-1 kind");
         IceTrade x = withRoom(0, 3, 1, 1);
         int[] bad = {-1, 3, WILD[0], WILD[1]};
         for (int kind : bad) {
@@ -63,7 +63,7 @@ public final class EdgesOfPlacesTest {
     }
 
     private static void grams() {
-        DUE.says("Promise 6", "1000 .. 1000000 grams; -1 .. grams");
+        DUE.says("Promise 6", "1000 .. 1000000 grams", "-1 grams");
         IceTrade x = withRoom(0, 2, 1, 1);
         int[] bad = {999, 1000001, 0, -1000, WILD[0], WILD[1]};
         for (int grams : bad) {
@@ -77,7 +77,7 @@ public final class EdgesOfPlacesTest {
     }
 
     private static void placesToCut() {
-        DUE.says("Promise 6", "-1 .. PLACE");
+        DUE.says("Promise 6", "-1 kind, grams, PLACE", "PLACE");
         IceTrade x = withRoom(0, 3, 2, 1);
         int[] bad = {-1, 6, 179, 180, WILD[0], WILD[1]};
         for (int place : bad) {
@@ -89,7 +89,7 @@ public final class EdgesOfPlacesTest {
     }
 
     private static void cutInNoRoom() {
-        DUE.says("Promise 6", "-2 ROOM (REFUSED: a PLACE .. is looked at where there is the ROOM alone)");
+        DUE.says("Promise 6", "-2 ROOM", "a PLACE is looked at where there is the ROOM alone");
         IceTrade x = withRoom(0, 1, 1, 1);
         int[] none = {-1, 1, 8, WILD[0], WILD[1]};
         for (int room : none) {
@@ -101,7 +101,7 @@ public final class EdgesOfPlacesTest {
     }
 
     private static void cutWhereNoRowIs() {
-        DUE.says("Promise 6", "-3");
+        DUE.says("Promise 6", "-3", "the ROW is not LAID");
         IceTrade x = new IceTrade();
         x.room(0, 2, 2, 2, -1);
         x.lay(0, 0, 0);
@@ -113,7 +113,7 @@ public final class EdgesOfPlacesTest {
     }
 
     private static void cutWhereSomethingIs() {
-        DUE.says("Promise 6", "-4");
+        DUE.says("Promise 6", "-4", "the PLACE is not free");
         IceTrade x = withRoom(0, 3, 1, 1);
         x.cut(0, 0, 0, 1000);
         x.put(0, 1, 0);
@@ -126,7 +126,7 @@ public final class EdgesOfPlacesTest {
     }
 
     private static void cutOnNothing() {
-        DUE.says("Promise 6", "-5");
+        DUE.says("Promise 6", "-5", "nothing beneath");
         IceTrade x = withRoom(0, 4, 1, 2);
         x.put(0, 1, 1);
         x.put(0, 2, 0);
@@ -173,7 +173,7 @@ public final class EdgesOfPlacesTest {
     }
 
     private static void theOrderOfCut() {
-        DUE.says("REFUSED", "The first of these in that order (cut)");
+        DUE.says("REFUSED", "The first of these in that order", "cut");
         IceTrade x = new IceTrade();
         x.room(0, 2, 1, 2, -1);
         DUE.told(x, "-1 ahead of -3: no such place", x.cut(0, 4, 0, 1000), -1);
@@ -201,7 +201,7 @@ public final class EdgesOfPlacesTest {
     }
 
     private static void whatIsPut() {
-        DUE.says("Promise 7", "STRAW is put (what 0), a DRAIN (1); -1 what");
+        DUE.says("Promise 7", "STRAW is put (what 0), a DRAIN (1): 0. -1 what, PLACE", "what");
         IceTrade x = withRoom(0, 2, 1, 1);
         int[] bad = {-1, 2, WILD[0], WILD[1]};
         for (int what : bad) {
@@ -214,7 +214,7 @@ public final class EdgesOfPlacesTest {
     }
 
     private static void placesToPut() {
-        DUE.says("Promise 7", "-1 .. PLACE");
+        DUE.says("Promise 7", "-1 what, PLACE", "PLACE");
         IceTrade x = withRoom(0, 3, 2, 1);
         int[] bad = {-1, 6, 179, 180, WILD[0], WILD[1]};
         for (int place : bad) {
@@ -226,7 +226,7 @@ public final class EdgesOfPlacesTest {
     }
 
     private static void putInNoRoom() {
-        DUE.says("Promise 7", "-2 (REFUSED: a PLACE .. is looked at where there is the ROOM alone)");
+        DUE.says("Promise 7", "-2", "a PLACE is looked at where there is the ROOM alone");
         IceTrade x = withRoom(0, 1, 1, 1);
         int[] none = {-1, 1, 8, WILD[0], WILD[1]};
         for (int room : none) {
@@ -237,7 +237,7 @@ public final class EdgesOfPlacesTest {
     }
 
     private static void putWhereNoRowIs() {
-        DUE.says("Promise 7", "-3");
+        DUE.says("Promise 7", "-3", "the ROW is not LAID");
         IceTrade x = new IceTrade();
         x.room(0, 2, 2, 2, -1);
         x.lay(0, 0, 0);
@@ -250,7 +250,7 @@ public final class EdgesOfPlacesTest {
     }
 
     private static void putWhereSomethingIs() {
-        DUE.says("Promise 7", "-4");
+        DUE.says("Promise 7", "-4", "the PLACE is not free");
         IceTrade x = withRoom(0, 3, 1, 1);
         x.cut(0, 0, 0, 1000);
         x.put(0, 1, 0);
@@ -264,7 +264,7 @@ public final class EdgesOfPlacesTest {
     }
 
     private static void putOnNothing() {
-        DUE.says("Promise 7", "-5");
+        DUE.says("Promise 7", "-5", "nothing beneath");
         for (int what = 0; what <= 1; what++) {
             IceTrade x = withRoom(0, 4, 1, 2);
             x.put(0, 1, 1);
@@ -279,7 +279,7 @@ public final class EdgesOfPlacesTest {
     }
 
     private static void noStrawOnCarts() {
-        DUE.says("II", "No STRAW is put on a CART");
+        DUE.says("II", "No STRAW is put on a CART", "Promise 7: -7 where no STRAW may be");
         for (int layers = 1; layers <= 5; layers += 2) {
             IceTrade x = withRoom(4, 2, 1, layers);
             DUE.told(x, "straw on a cart of " + layers, x.put(0, 0, 0), -7);
@@ -294,7 +294,7 @@ public final class EdgesOfPlacesTest {
     }
 
     private static void noStrawOnFlatBoats() {
-        DUE.says("II", "nor on BOATS of one layer; Promise 7: -7 where no STRAW may be");
+        DUE.says("II", "nor on BOATS of one layer", "Promise 7: -7 where no STRAW may be");
         for (int layers = 1; layers <= 5; layers++) {
             IceTrade x = withRoom(3, 2, 1, layers);
             DUE.told(x, "straw on a boat of " + layers, x.put(0, 0, 0), layers == 1 ? -7 : 0);
@@ -308,7 +308,7 @@ public final class EdgesOfPlacesTest {
     }
 
     private static void theOrderOfPut() {
-        DUE.says("REFUSED", "The first of these in that order (put)");
+        DUE.says("REFUSED", "The first of these in that order", "put");
         IceTrade x = new IceTrade();
         x.room(4, 2, 1, 2, -1);
         DUE.told(x, "-1 ahead of -3: another what", x.put(0, 0, 2), -1);
@@ -328,7 +328,9 @@ public final class EdgesOfPlacesTest {
     }
 
     private static void rightBeneath() {
-        DUE.says("II", "What is put needs .. the floor (layer 0), a BLOCK or STRAW right beneath");
+        DUE.says("II", "What is put needs its ROW LAID, its PLACE free, and the floor (layer 0), a BLOCK or STRAW"
+            + " right beneath",
+            "right beneath");
         IceTrade x = withRoom(0, 2, 1, 3);
         x.cut(0, 0, 0, 1000);
         DUE.told(x, "a block two beneath is not enough", x.cut(0, 4, 0, 1000), -5);
@@ -365,7 +367,7 @@ public final class EdgesOfPlacesTest {
     }
 
     private static void placesToClear() {
-        DUE.says("Promise 8", "-1 .. likewise (PLACE)");
+        DUE.says("Promise 8", "-1, -2 likewise", "PLACE");
         IceTrade x = withRoom(0, 3, 2, 1);
         x.put(0, 0, 0);
         x.put(0, 5, 0);
@@ -378,7 +380,7 @@ public final class EdgesOfPlacesTest {
     }
 
     private static void clearInNoRoom() {
-        DUE.says("Promise 8", "-2 likewise (REFUSED: a PLACE .. is looked at where there is the ROOM alone)");
+        DUE.says("Promise 8", "-1, -2 likewise", "ROOM; a PLACE is looked at where there is the ROOM alone");
         IceTrade x = withRoom(0, 1, 1, 1);
         x.put(0, 0, 0);
         int[] none = {-1, 1, 8, WILD[0], WILD[1]};
@@ -389,7 +391,7 @@ public final class EdgesOfPlacesTest {
     }
 
     private static void clearWhereNoRowIs() {
-        DUE.says("Promise 8", "-3");
+        DUE.says("Promise 8", "-3", "the ROW is not LAID");
         IceTrade x = new IceTrade();
         x.room(0, 2, 1, 2, -1);
         DUE.told(x, "a row of the floor", x.clear(0, 0), -3);
@@ -399,7 +401,7 @@ public final class EdgesOfPlacesTest {
     }
 
     private static void clearWhatIsNot() {
-        DUE.says("Promise 8", "-7 there is none");
+        DUE.says("Promise 8", "-7 there is none, or something lies right above", "there is none");
         IceTrade x = withRoom(0, 4, 1, 1);
         x.cut(0, 1, 0, 1000);
         x.put(0, 2, 0);
@@ -414,7 +416,7 @@ public final class EdgesOfPlacesTest {
     }
 
     private static void somethingRightAbove() {
-        DUE.says("Promise 8", "-7 .. something lies right above");
+        DUE.says("Promise 8", "-7 there is none, or something lies right above", "something lies right above");
         for (int what = 0; what <= 2; what++) {
             IceTrade x = withRoom(0, 1, 1, 3);
             x.put(0, 0, 0);
@@ -448,7 +450,7 @@ public final class EdgesOfPlacesTest {
     }
 
     private static void placesThatAreNone() {
-        DUE.says("Promise 9", "-1");
+        DUE.says("Promise 9", "-1", "PLACE");
         IceTrade x = withRoom(0, 3, 2, 2);
         int[] bad = {-1, 12, 179, 180, WILD[0], WILD[1]};
         for (int place : bad) {
@@ -459,7 +461,7 @@ public final class EdgesOfPlacesTest {
     }
 
     private static void placesInNoRoom() {
-        DUE.says("Promise 9", "-2 (REFUSED: a PLACE .. is looked at where there is the ROOM alone)");
+        DUE.says("Promise 9", "-2", "a PLACE is looked at where there is the ROOM alone");
         IceTrade x = withRoom(0, 1, 1, 1);
         int[] none = {-1, 1, 8, WILD[0], WILD[1]};
         for (int room : none) {
@@ -469,7 +471,7 @@ public final class EdgesOfPlacesTest {
     }
 
     private static void placesWithoutARow() {
-        DUE.says("Promise 9", "-3");
+        DUE.says("Promise 9", "-3", "the ROW is not LAID");
         IceTrade x = new IceTrade();
         x.room(0, 2, 2, 2, -1);
         DUE.due("place(0, 0)", x.place(0, 0), -3);
@@ -497,7 +499,7 @@ public final class EdgesOfPlacesTest {
     }
 
     private static void blocksThatAreNone() {
-        DUE.says("Promise 10", "-2");
+        DUE.says("Promise 10", "-2; -1 for another what", "BLOCK");
         IceTrade x = withRoom(0, 2, 1, 1);
         x.cut(0, 0, 0, 1000);
         int[] none = {-1, 1, 299, 300, WILD[0], WILD[1]};
@@ -512,7 +514,7 @@ public final class EdgesOfPlacesTest {
     }
 
     private static void anotherWhatOfABlock() {
-        DUE.says("Promise 10", "-1 for another what");
+        DUE.says("Promise 10", "-2; -1 for another what", "another what");
         IceTrade x = withRoom(0, 2, 1, 1);
         x.cut(0, 0, 0, 1000);
         DUE.due("block(0, 0)", x.block(0, 0), 0);
@@ -525,7 +527,9 @@ public final class EdgesOfPlacesTest {
     }
 
     private static void takenOnes() {
-        DUE.says("Promise 10", "1 grams (of a TAKEN one what it weighed then), 2 ROOM (NONE: TAKEN ..), 3 PLACE (NONE)");
+        DUE.says("Promise 10", "1 grams (of a TAKEN one what it weighed then, 0 of one that is GONE), 2 ROOM"
+            + " (NONE: TAKEN or GONE), 3 PLACE (NONE)",
+            "TAKEN");
         IceTrade x = withRoom(0, 3, 1, 1);
         Due.warm(x, 0, 1f);
         x.cut(0, 2, 0, 5000);
@@ -540,7 +544,9 @@ public final class EdgesOfPlacesTest {
     }
 
     private static void goneOnes() {
-        DUE.says("Promise 10", "1 grams (.. 0 of one that is GONE), 2 ROOM (NONE: .. GONE), 3 PLACE (NONE)");
+        DUE.says("Promise 10", "1 grams (of a TAKEN one what it weighed then, 0 of one that is GONE), 2 ROOM"
+            + " (NONE: TAKEN or GONE), 3 PLACE (NONE)",
+            "GONE");
         IceTrade x = withRoom(0, 3, 1, 1);
         Due.warm(x, 0, 1f);
         x.cut(0, 2, 0, 1100);

@@ -18,7 +18,7 @@ public final class EdgesOfRefusalsTest {
     }
 
     private static void aheadOfAny() {
-        DUE.says("Promise 35", "0 .. ahead of any");
+        DUE.says("Promise 35", "0 if it was not, or ahead of any", "ahead of any");
         IceTrade x = new IceTrade();
         DUE.due("status()", x.status(), 0);
         x.rooms(0, 0);
@@ -29,7 +29,7 @@ public final class EdgesOfRefusalsTest {
     }
 
     private static void byEachNumber() {
-        DUE.says("Promise 35", "What the latest call of those that may be REFUSED was REFUSED by");
+        DUE.says("Promise 35", "What the latest call of those that may be REFUSED was REFUSED by", "each of the seven");
         IceTrade x = new IceTrade();
         x.room(0, 2, 1, 2, -1);
         DUE.told(x, "-1 a number that can't be", x.room(6, 1, 1, 1, -1), -1);
@@ -45,7 +45,7 @@ public final class EdgesOfRefusalsTest {
 
     /** Each call that may be refused, first refused and then not. */
     private static void zeroIfItWasNot() {
-        DUE.says("Promise 35", "0 if it was not");
+        DUE.says("Promise 35", "0 if it was not, or ahead of any", "it was not");
         IceTrade x = new IceTrade();
         DUE.told(x, "room", x.room(0, 0, 1, 1, -1), -1);
         DUE.told(x, "room", x.room(0, 2, 1, 2, -1), 0);
@@ -94,7 +94,7 @@ public final class EdgesOfRefusalsTest {
     }
 
     private static void theLatestCall() {
-        DUE.says("Promise 35", "the latest call of those that may be REFUSED");
+        DUE.says("Promise 35", "What the latest call of those that may be REFUSED was REFUSED by", "the latest");
         IceTrade x = new IceTrade();
         x.room(6, 1, 1, 1, -1);
         x.lay(0, 0, 0);
@@ -130,8 +130,8 @@ public final class EdgesOfRefusalsTest {
     }
 
     private static void eachAskingCallLeavesIt() {
-        DUE.says("Promise 35", "(Asking calls leave it: rooms, place, block, tenths, count, next, comes, sent, list, foretold,"
-            + " last, line, check, status.)");
+        DUE.says("Promise 35", "(Asking calls leave it: rooms, place, block, tenths, count, next, comes, sent,"
+            + " list, foretold, last, line, check, status.)");
         String[] names = {"rooms", "rooms, -2", "rooms, -1", "place", "place, -1", "place, -2", "place, -3", "block",
             "block, -2", "block, -1", "tenths", "tenths, -1000", "count", "count, -1", "next", "next, -2", "next, NONE",
             "comes", "comes, -1", "comes, -2", "comes, -6", "sent", "sent, -1", "list", "list, NONE", "foretold",
@@ -186,7 +186,8 @@ public final class EdgesOfRefusalsTest {
     }
 
     private static void homeLeavesIt() {
-        DUE.says("Promise 35", "What the latest call of those that may be REFUSED was (home() is none of those)");
+        DUE.says("Promise 35", "What the latest call of those that may be REFUSED was REFUSED by",
+            "home() is none of those");
         IceTrade x = new IceTrade();
         x.home();
         DUE.due("ahead of any", x.status(), 0);
@@ -335,7 +336,7 @@ public final class EdgesOfRefusalsTest {
     }
 
     private static void whatOfNoRoom() {
-        DUE.says("REFUSED", "-1 a number that can't be; -2 there is none such; .. The first of these in that order");
+        DUE.says("REFUSED", "The first of these in that order", "-1 ahead of -2");
         IceTrade x = new IceTrade();
         DUE.told(x, "cut of no kind in no room", x.cut(0, 0, 3, 1000), -1);
         DUE.told(x, "cut without weight in no room", x.cut(0, 0, 0, 999), -1);

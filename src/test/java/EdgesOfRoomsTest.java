@@ -54,7 +54,7 @@ public final class EdgesOfRoomsTest {
     }
 
     private static void kinds() {
-        DUE.says("Promise 2", "-1: KIND");
+        DUE.says("Promise 2", "-1: KIND, width, rows, layers", "KIND");
         IceTrade x = new IceTrade();
         DUE.told(x, "kind -1", x.room(-1, 1, 1, 1, -1), -1);
         DUE.told(x, "kind 6", x.room(6, 1, 1, 1, -1), -1);
@@ -68,7 +68,7 @@ public final class EdgesOfRoomsTest {
     }
 
     private static void widths() {
-        DUE.says("Promise 2", "-1: .. width (II: 1 .. 6 in a row)");
+        DUE.says("Promise 2", "-1: KIND, width, rows, layers", "width, 1 to 6");
         IceTrade x = new IceTrade();
         int[] bad = {0, 7, -1, WILD[0], WILD[1]};
         for (int width : bad) {
@@ -83,7 +83,7 @@ public final class EdgesOfRoomsTest {
     }
 
     private static void rowsOfALayer() {
-        DUE.says("Promise 2", "-1: .. rows (II: 1 .. 6 rows in a layer)");
+        DUE.says("Promise 2", "-1: KIND, width, rows, layers", "rows, 1 to 6");
         IceTrade x = new IceTrade();
         int[] bad = {0, 7, -1, WILD[0], WILD[1]};
         for (int rows : bad) {
@@ -98,7 +98,7 @@ public final class EdgesOfRoomsTest {
     }
 
     private static void layers() {
-        DUE.says("Promise 2", "-1: .. layers (II: 1 .. 5 layers)");
+        DUE.says("Promise 2", "-1: KIND, width, rows, layers", "layers, 1 to 5");
         IceTrade x = new IceTrade();
         int[] bad = {0, 6, -1, WILD[0], WILD[1]};
         for (int layers : bad) {
@@ -156,7 +156,7 @@ public final class EdgesOfRoomsTest {
     }
 
     private static void aNinthThatCannotBe() {
-        DUE.says("REFUSED", "The first of these in that order (room: -1 ahead of -6)");
+        DUE.says("REFUSED", "The first of these in that order", "room: -1 ahead of -6");
         IceTrade x = new IceTrade();
         for (int room = 0; room < 8; room++) {
             x.room(0, 1, 1, 1, -1);
@@ -189,7 +189,7 @@ public final class EdgesOfRoomsTest {
     }
 
     private static void roomsOfNone() {
-        DUE.says("Promise 3", "-2");
+        DUE.says("Promise 3", "-2; -1 for another what", "ROOM");
         IceTrade x = withRoom(1, 1, 1);
         int[] none = {-1, 1, 7, 8, WILD[0], WILD[1]};
         for (int room : none) {
@@ -200,7 +200,7 @@ public final class EdgesOfRoomsTest {
     }
 
     private static void roomsOfAnotherWhat() {
-        DUE.says("Promise 3", "-1 for another what");
+        DUE.says("Promise 3", "-2; -1 for another what", "another what");
         IceTrade x = withRoom(1, 1, 1);
         DUE.due("rooms(0, 0)", x.rooms(0, 0), 0);
         DUE.due("rooms(0, 11)", x.rooms(0, 11), 0);
@@ -224,8 +224,9 @@ public final class EdgesOfRoomsTest {
     }
 
     private static void emptyRooms() {
-        DUE.says("Promise 3", "6 BLOCKS, 7 grams in it, 8 LED, 9 STANDING grams, 10 sides in air of its BLOCKS, 11 FREE ones"
-            + " (empty)");
+        DUE.says("Promise 3", "6 BLOCKS, 7 grams in it, 8 LED, 9 STANDING grams, 10 sides in air of its BLOCKS, 11"
+            + " FREE ones",
+            "an empty ROOM");
         IceTrade x = new IceTrade();
         Due.warm(x, 0, 60f);
         Due.laidRoom(x, 5, 2, 2, 2);
@@ -238,7 +239,9 @@ public final class EdgesOfRoomsTest {
     }
 
     private static void fullRooms() {
-        DUE.says("Promise 3", "6 BLOCKS, 7 grams in it, .. 10 sides in air of its BLOCKS, 11 FREE ones (full)");
+        DUE.says("Promise 3", "6 BLOCKS, 7 grams in it, 8 LED, 9 STANDING grams, 10 sides in air of its BLOCKS, 11"
+            + " FREE ones",
+            "a full ROOM");
         IceTrade x = withRoom(6, 6, 5);
         Due.layAll(x, 0);
         for (int place = 0; place < 180; place++) {
@@ -251,7 +254,7 @@ public final class EdgesOfRoomsTest {
     }
 
     private static void layLayer() {
-        DUE.says("Promise 4", "-1 layer");
+        DUE.says("Promise 4", "-1 layer, row; -2 ROOM", "layer");
         IceTrade x = withRoom(1, 6, 2);
         int[] bad = {-1, 2, WILD[0], WILD[1]};
         for (int layer : bad) {
@@ -263,7 +266,7 @@ public final class EdgesOfRoomsTest {
     }
 
     private static void layRow() {
-        DUE.says("Promise 4", "-1 .. row");
+        DUE.says("Promise 4", "-1 layer, row; -2 ROOM", "row");
         IceTrade x = withRoom(6, 2, 5);
         int[] bad = {-1, 2, WILD[0], WILD[1]};
         for (int row : bad) {
@@ -277,7 +280,7 @@ public final class EdgesOfRoomsTest {
     }
 
     private static void layInNoRoom() {
-        DUE.says("Promise 4", "-2 ROOM (REFUSED: a .. layer, row is looked at where there is the ROOM alone)");
+        DUE.says("Promise 4", "-1 layer, row; -2 ROOM", "ROOM; layer, row are looked at where there is the ROOM alone");
         IceTrade x = withRoom(1, 1, 1);
         int[] none = {-1, 1, 8, WILD[0], WILD[1]};
         for (int room : none) {
@@ -288,7 +291,7 @@ public final class EdgesOfRoomsTest {
     }
 
     private static void laidAlready() {
-        DUE.says("Promise 4", "-7 it is already");
+        DUE.says("Promise 4", "-7 it is already, or not the one beneath", "it is already");
         IceTrade x = withRoom(1, 2, 2);
         x.lay(0, 0, 0);
         DUE.told(x, "lay(0, 0, 0) again", x.lay(0, 0, 0), -7);
@@ -299,7 +302,7 @@ public final class EdgesOfRoomsTest {
     }
 
     private static void notTheOneBeneath() {
-        DUE.says("Promise 4", "-7 .. not the one beneath");
+        DUE.says("Promise 4", "-7 it is already, or not the one beneath", "not the one beneath");
         IceTrade x = withRoom(1, 3, 3);
         DUE.told(x, "layer 1 on none", x.lay(0, 1, 1), -7);
         x.lay(0, 0, 0);
@@ -323,7 +326,7 @@ public final class EdgesOfRoomsTest {
     }
 
     private static void theTopmostRow() {
-        DUE.says("II", "1 .. 6 rows (y) in a layer, 1 .. 5 layers (z) from below (all 30 ROWS)");
+        DUE.says("II", "1 .. 6 rows (y) in a layer, 1 .. 5 layers (z) from below", "all 30 ROWS");
         IceTrade x = withRoom(6, 6, 5);
         for (int layer = 0; layer < 5; layer++) {
             for (int row = 0; row < 6; row++) {
@@ -340,7 +343,7 @@ public final class EdgesOfRoomsTest {
     }
 
     private static void tearLayer() {
-        DUE.says("Promise 5", "-1 .. likewise (layer)");
+        DUE.says("Promise 5", "-1, -2 likewise", "layer");
         IceTrade x = withRoom(1, 6, 2);
         Due.layAll(x, 0);
         int[] bad = {-1, 2, WILD[0], WILD[1]};
@@ -351,7 +354,7 @@ public final class EdgesOfRoomsTest {
     }
 
     private static void tearRow() {
-        DUE.says("Promise 5", "-1 .. likewise (row)");
+        DUE.says("Promise 5", "-1, -2 likewise", "row");
         IceTrade x = withRoom(6, 2, 2);
         Due.layAll(x, 0);
         int[] bad = {-1, 2, WILD[0], WILD[1]};
@@ -363,7 +366,7 @@ public final class EdgesOfRoomsTest {
     }
 
     private static void tearInNoRoom() {
-        DUE.says("Promise 5", "-2 likewise (REFUSED: a .. layer, row is looked at where there is the ROOM alone)");
+        DUE.says("Promise 5", "-1, -2 likewise", "ROOM; layer, row are looked at where there is the ROOM alone");
         IceTrade x = withRoom(1, 1, 1);
         x.lay(0, 0, 0);
         int[] none = {-1, 1, 8, WILD[0], WILD[1]};
@@ -375,7 +378,7 @@ public final class EdgesOfRoomsTest {
     }
 
     private static void tornAlready() {
-        DUE.says("Promise 5", "-3");
+        DUE.says("Promise 5", "-3", "the ROW is not LAID");
         IceTrade x = withRoom(1, 2, 2);
         DUE.told(x, "tear(0, 0, 0), never laid", x.tear(0, 0, 0), -3);
         DUE.told(x, "tear(0, 1, 1), never laid", x.tear(0, 1, 1), -3);
@@ -387,7 +390,7 @@ public final class EdgesOfRoomsTest {
     }
 
     private static void holdsSomething() {
-        DUE.says("Promise 5", "-7 it holds something");
+        DUE.says("Promise 5", "-7 it holds something, or one above is LAID", "it holds something");
         for (int what = 0; what <= 2; what++) {
             for (int place = 2; place <= 3; place++) {
                 IceTrade x = withRoom(2, 3, 1);
@@ -406,7 +409,7 @@ public final class EdgesOfRoomsTest {
     }
 
     private static void oneAboveIsLaid() {
-        DUE.says("Promise 5", "-7 .. one above is LAID");
+        DUE.says("Promise 5", "-7 it holds something, or one above is LAID", "one above is LAID");
         IceTrade x = withRoom(1, 2, 3);
         Due.layAll(x, 0);
         DUE.told(x, "tear(0, 0, 0) beneath two", x.tear(0, 0, 0), -7);

@@ -141,7 +141,7 @@ public final class EdgesOfTakingTest {
     }
 
     private static void nextOfNoRoom() {
-        DUE.says("Promise 16", "-2");
+        DUE.says("Promise 16", "NONE without FREE ones; -2", "-2");
         IceTrade x = withRoom(1, 1, 1, 10f);
         int[] none = {-1, 1, 8, WILD[0], WILD[1]};
         for (int room : none) {
@@ -150,7 +150,7 @@ public final class EdgesOfTakingTest {
     }
 
     private static void howManyToTake() {
-        DUE.says("Promise 17", "n BLOCKS (1 .. 300); -1");
+        DUE.says("Promise 17", "n BLOCKS (1 .. 300) are TAKEN and SOLD", "-1");
         IceTrade x = withRoom(2, 1, 1, 10f);
         x.cut(0, 0, 0, 5000);
         int[] bad = {0, -1, 301, WILD[0], WILD[1]};
@@ -162,7 +162,7 @@ public final class EdgesOfTakingTest {
     }
 
     private static void takeFromNoRoom() {
-        DUE.says("Promise 17", "-2");
+        DUE.says("Promise 17", "-1; -2; -6: the ROOM has not so many", "-2");
         IceTrade x = withRoom(1, 1, 1, 10f);
         x.cut(0, 0, 0, 5000);
         int[] none = {-1, 1, 8, WILD[0], WILD[1]};
@@ -191,7 +191,7 @@ public final class EdgesOfTakingTest {
     }
 
     private static void allOfThem() {
-        DUE.says("Promise 17", "n BLOCKS (1 .. 300) are TAKEN and SOLD: what they weigh (a full ROOM)");
+        DUE.says("Promise 17", "n BLOCKS (1 .. 300) are TAKEN and SOLD: what they weigh", "a full ROOM");
         IceTrade x = withRoom(6, 6, 5, -60f);
         for (int place = 0; place < 180; place++) {
             x.cut(0, place, 0, 1000000);
@@ -206,7 +206,7 @@ public final class EdgesOfTakingTest {
     }
 
     private static void theOrderOfTake() {
-        DUE.says("REFUSED", "The first of these in that order (take)");
+        DUE.says("REFUSED", "The first of these in that order", "take");
         IceTrade x = withRoom(1, 1, 1, 10f);
         DUE.told(x, "-1 ahead of -2", x.take(1, 0), -1);
         DUE.told(x, "-1 ahead of -2", x.take(-1, 301), -1);

@@ -27,15 +27,17 @@ public final class EdgesOfTheBookTest {
         DUE.end();
     }
 
-    /** Three blocks that lose 180 grams each on day 0; the third one is gone by it. */
+    /** Three blocks in rooms 1 and 2 that lose 180 grams each on day 0; the third one is gone by it. */
     private static IceTrade withThreeLines() {
         IceTrade x = new IceTrade();
+        x.room(0, 1, 1, 1, -1);
         Due.laidRoom(x, 0, 6, 1, 1);
+        Due.laidRoom(x, 0, 3, 1, 1);
         Due.warm(x, 0, 1f);
         Due.warm(x, 1, -60f);
-        x.cut(0, 4, 0, 5000);
-        x.cut(0, 2, 0, 6000);
-        x.cut(0, 0, 0, 1179);
+        x.cut(1, 4, 0, 5000);
+        x.cut(2, 2, 0, 6000);
+        x.cut(1, 0, 0, 1179);
         x.day();
         return x;
     }
@@ -60,7 +62,7 @@ public final class EdgesOfTheBookTest {
     }
 
     private static void oneGramIsALine() {
-        DUE.says("VII", "each BLOCK that lost by it (one gram is a loss, none is not)");
+        DUE.says("VII", "a LINE for each BLOCK that lost by it", "one gram is a loss, none is not");
         IceTrade x = new IceTrade();
         Due.laidRoom(x, 5, 1, 1, 1);
         Due.warm(x, 0, -60f);
@@ -80,7 +82,7 @@ public final class EdgesOfTheBookTest {
     private static void inTheirOrder() {
         DUE.says("VII", "in their order: its number, ROOM, PLACE, what it weighed, its LOSS, and what was left");
         IceTrade x = withThreeLines();
-        int[][] due = {{0, 0, 4, 5000, 180, 4820}, {1, 0, 2, 6000, 180, 5820}, {2, 0, 0, 1179, 180, 0}};
+        int[][] due = {{0, 1, 4, 5000, 180, 4820}, {1, 2, 2, 6000, 180, 5820}, {2, 1, 0, 1179, 180, 0}};
         for (int i = 0; i < 3; i++) {
             for (int what = 0; what <= 5; what++) {
                 DUE.due("line(" + i + ", " + what + ")", x.line(i, what), due[i][what]);
@@ -104,7 +106,7 @@ public final class EdgesOfTheBookTest {
     }
 
     private static void goneWithoutLoss() {
-        DUE.says("VII", "a LINE for each BLOCK that lost by it (one that is GONE without a loss has none)");
+        DUE.says("VII", "a LINE for each BLOCK that lost by it", "one that is GONE without a loss has none");
         IceTrade x = new IceTrade();
         Due.laidRoom(x, 0, 1, 1, 1);
         Due.warm(x, 0, -60f);
@@ -118,19 +120,23 @@ public final class EdgesOfTheBookTest {
     private static void theLatestDay() {
         DUE.says("VII", "THE BOOK of the latest day()");
         IceTrade x = withThreeLines();
+        x.alter(0, 0, 1);
+        x.alter(2, 0, 1);
         x.day();
         DUE.due("LINES of a day of frost", x.count(13), 0);
         DUE.due("line(0, 0)", x.line(0, 0), -2);
+        DUE.due("what was altered in the BOOK ahead of it is no more", x.check(), -1);
         Due.warm(x, 2, 2f);
         x.day();
         DUE.due("LINES of another day", x.count(13), 2);
         DUE.due("line(1, 3)", x.line(1, 3), 5820);
         DUE.due("line(1, 4)", x.line(1, 4), 360);
         DUE.due("line(2, 0)", x.line(2, 0), -2);
+        DUE.due("check()", x.check(), -1);
     }
 
     private static void linesThatAreNone() {
-        DUE.says("Promise 32", "-2");
+        DUE.says("Promise 32", "-2; -1 for another what", "LINE");
         IceTrade x = withThreeLines();
         int[] none = {-1, 3, 299, 300, WILD[0], WILD[1]};
         for (int i : none) {
@@ -144,7 +150,7 @@ public final class EdgesOfTheBookTest {
     }
 
     private static void anotherWhat() {
-        DUE.says("Promise 32", "-1 for another what");
+        DUE.says("Promise 32", "-2; -1 for another what", "another what");
         IceTrade x = withThreeLines();
         int[] others = {-1, 6, WILD[0], WILD[1]};
         for (int what : others) {
@@ -157,7 +163,7 @@ public final class EdgesOfTheBookTest {
     }
 
     private static void alterLinesThatAreNone() {
-        DUE.says("Promise 33", "-2");
+        DUE.says("Promise 33", "-1 another what, mask 0; -2", "LINE");
         IceTrade x = new IceTrade();
         DUE.told(x, "without a BOOK", x.alter(0, 0, 1), -2);
         IceTrade y = withThreeLines();
@@ -171,7 +177,7 @@ public final class EdgesOfTheBookTest {
     }
 
     private static void alterAnotherWhat() {
-        DUE.says("Promise 33", "-1 another what");
+        DUE.says("Promise 33", "-1 another what, mask 0; -2", "another what");
         IceTrade x = withThreeLines();
         int[] others = {-1, 6, WILD[0], WILD[1]};
         for (int what : others) {
@@ -184,7 +190,7 @@ public final class EdgesOfTheBookTest {
     }
 
     private static void alterByNoBits() {
-        DUE.says("Promise 33", "by what mask has of bits (not 0): 0. -1 .. mask 0");
+        DUE.says("Promise 33", "by what mask has of bits (not 0)", "mask 0");
         IceTrade x = withThreeLines();
         for (int what = 0; what <= 5; what++) {
             DUE.told(x, "alter(0, " + what + ", 0)", x.alter(0, what, 0), -1);
@@ -193,7 +199,7 @@ public final class EdgesOfTheBookTest {
     }
 
     private static void theOrderOfAlter() {
-        DUE.says("REFUSED", "The first of these in that order (alter: -1 ahead of -2)");
+        DUE.says("REFUSED", "The first of these in that order", "alter: -1 ahead of -2");
         IceTrade x = new IceTrade();
         DUE.told(x, "mask 0, without a BOOK", x.alter(0, 0, 0), -1);
         DUE.told(x, "another what, without a BOOK", x.alter(0, 6, 1), -1);
@@ -220,14 +226,14 @@ public final class EdgesOfTheBookTest {
     }
 
     private static void refusedOnesAlterNothing() {
-        DUE.says("REFUSED", "What is REFUSED changes nothing but status() (alter)");
+        DUE.says("REFUSED", "What is REFUSED changes nothing but status()", "alter");
         IceTrade x = withThreeLines();
         x.alter(3, 0, 1);
         x.alter(-1, 0, 1);
         x.alter(0, 6, 1);
         x.alter(1, -1, 1);
         x.alter(0, 0, 0);
-        int[][] due = {{0, 0, 4, 5000, 180, 4820}, {1, 0, 2, 6000, 180, 5820}, {2, 0, 0, 1179, 180, 0}};
+        int[][] due = {{0, 1, 4, 5000, 180, 4820}, {1, 2, 2, 6000, 180, 5820}, {2, 1, 0, 1179, 180, 0}};
         for (int i = 0; i < 3; i++) {
             for (int what = 0; what <= 5; what++) {
                 DUE.due("line(" + i + ", " + what + ")", x.line(i, what), due[i][what]);
@@ -284,9 +290,9 @@ public final class EdgesOfTheBookTest {
         IceTrade x = withThreeLines();
         Due.warm(x, 0, 50f);
         x.terms(1, 2, 3);
-        x.take(0, 2);
-        x.cut(0, 0, 2, 5000);
-        x.put(0, 4, 0);
+        x.take(1, 1);
+        x.cut(1, 0, 2, 5000);
+        x.put(1, 4, 0);
         x.image(0);
         x.foretell(9, 0);
         DUE.due("check()", x.check(), -1);
@@ -295,7 +301,7 @@ public final class EdgesOfTheBookTest {
     }
 
     private static void aBookWithoutLines() {
-        DUE.says("Promise 34", "NONE if all of its LINES are right (a BOOK without LINES)");
+        DUE.says("Promise 34", "NONE if all of its LINES are right", "a BOOK without LINES");
         IceTrade x = new IceTrade();
         x.day();
         DUE.due("check()", x.check(), -1);
@@ -305,7 +311,7 @@ public final class EdgesOfTheBookTest {
 
     /** In rooms of two places in a row each block has a side beyond the room, so that all of them lose. */
     private static void theLongestBook() {
-        DUE.says("VII", "a LINE for each BLOCK that lost by it (300 of them)");
+        DUE.says("VII", "a LINE for each BLOCK that lost by it", "300 of them");
         IceTrade x = new IceTrade();
         Due.warm(x, 0, 1f);
         for (int room = 0; room < 5; room++) {

@@ -51,7 +51,7 @@ public final class EdgesOfTheWayTest {
     }
 
     private static void sixStretches() {
-        DUE.says("IV", "THE WAY: up to 6 STRETCHES; Promise 18: how many .. -6");
+        DUE.says("IV", "THE WAY: up to 6 STRETCHES", "Promise 18: -6");
         IceTrade x = new IceTrade();
         for (int i = 1; i <= 6; i++) {
             DUE.told(x, "stretch " + i, x.way(3, 1), i);
@@ -65,7 +65,7 @@ public final class EdgesOfTheWayTest {
     }
 
     private static void daysOfAStretch() {
-        DUE.says("IV", "each 0 .. 20 days; Promise 18: -1");
+        DUE.says("IV", "each 0 .. 20 days on a CART or BOAT", "Promise 18: -1");
         IceTrade x = new IceTrade();
         int[] bad = {-1, 21, WILD[0], WILD[1]};
         for (int days : bad) {
@@ -79,7 +79,7 @@ public final class EdgesOfTheWayTest {
     }
 
     private static void kindsOfAStretch() {
-        DUE.says("Promise 18", "on a CART (kind 4) or BOAT (3) .. -1");
+        DUE.says("Promise 18", "One more STRETCH on a CART (kind 4) or BOAT (3): how many. -1", "kind");
         IceTrade x = new IceTrade();
         int[] bad = {-1, 0, 1, 2, 5, 6, WILD[0], WILD[1]};
         for (int kind : bad) {
@@ -90,7 +90,7 @@ public final class EdgesOfTheWayTest {
     }
 
     private static void theOrderOfWay() {
-        DUE.says("REFUSED", "The first of these in that order (way: -1 ahead of -6)");
+        DUE.says("REFUSED", "The first of these in that order", "way: -1 ahead of -6");
         IceTrade x = new IceTrade();
         for (int i = 0; i < 6; i++) {
             x.way(3, 1);
@@ -115,7 +115,7 @@ public final class EdgesOfTheWayTest {
     }
 
     private static void withoutStretches() {
-        DUE.says("IV", "What BLOCKS COME to is what they weigh together at THE WAY's end (of no STRETCHES)");
+        DUE.says("IV", "What BLOCKS COME to is what they weigh together at THE WAY's end", "no STRETCHES");
         IceTrade x = withBlocks(60f, 1000, 2000);
         DUE.due("without a way", x.comes(0, 2), 3000);
         x.terms(40, 200, 1000000);
@@ -126,7 +126,7 @@ public final class EdgesOfTheWayTest {
     }
 
     private static void stretchesWithoutDays() {
-        DUE.says("IV", "each 0 .. 20 days (STRETCHES of 0 days)");
+        DUE.says("IV", "each 0 .. 20 days on a CART or BOAT", "0 days");
         IceTrade x = withBlocks(60f, 1000, 2000);
         x.terms(40, 200, 1000000);
         for (int i = 0; i < 6; i++) {
@@ -159,7 +159,7 @@ public final class EdgesOfTheWayTest {
     }
 
     private static void withoutSalt() {
-        DUE.says("IV", "On it a BLOCK is alone: .. by the WARMTH of a CART or BOAT without SALT");
+        DUE.says("IV", "On it a BLOCK is alone: [..] by the WARMTH of a CART or BOAT without SALT");
         IceTrade x = new IceTrade();
         Due.laidRoom(x, 0, 2, 1, 1);
         x.cut(0, 0, 2, 50000);
@@ -170,7 +170,7 @@ public final class EdgesOfTheWayTest {
     }
 
     private static void wayInFrost() {
-        DUE.says("III", "GRAMS are RATE times the WARMTH, if that is above 0, else 0 (on THE WAY)");
+        DUE.says("III", "GRAMS are RATE times the WARMTH, if that is above 0, else 0", "on THE WAY");
         float[] degrees = {-60f, -3f, -2.9f, -1f, -0.9f};
         int[] cart = {0, 0, 1, 20, 21};
         int[] boat = {0, 0, 0, 0, 1};
@@ -185,7 +185,7 @@ public final class EdgesOfTheWayTest {
     }
 
     private static void atMostWhatItWeighs() {
-        DUE.says("IV", "it loses .. at most what it weighs");
+        DUE.says("IV", "it loses six sides in air [..], at most what it weighs");
         IceTrade x = withBlocks(60f, 10000);
         x.terms(40, 200, 1);
         x.way(4, 1);
@@ -234,7 +234,7 @@ public final class EdgesOfTheWayTest {
     }
 
     private static void howManyCome() {
-        DUE.says("Promise 20", "n BLOCKS (0 .. 300) .. -1");
+        DUE.says("Promise 20", "What n BLOCKS (0 .. 300) that would be TAKEN from a ROOM COME to", "-1");
         IceTrade x = withBlocks(0f, 1000);
         int[] bad = {-1, 301, WILD[0], WILD[1]};
         for (int n : bad) {
@@ -253,7 +253,7 @@ public final class EdgesOfTheWayTest {
     }
 
     private static void comesFromNoRoom() {
-        DUE.says("Promise 20", "-2");
+        DUE.says("Promise 20", "-1; -2; -6", "-2");
         IceTrade x = withBlocks(0f, 1000);
         int[] none = {-1, 1, 8, WILD[0], WILD[1]};
         for (int room : none) {
@@ -263,7 +263,7 @@ public final class EdgesOfTheWayTest {
     }
 
     private static void notSoManyCome() {
-        DUE.says("Promise 20", "-6");
+        DUE.says("Promise 20", "-1; -2; -6", "-6");
         IceTrade x = withBlocks(0f, 1000, 2000);
         Due.laidRoom(x, 0, 1, 1, 1);
         DUE.due("an empty room", x.comes(1, 1), -6);
@@ -274,7 +274,7 @@ public final class EdgesOfTheWayTest {
     }
 
     private static void theOrderOfComes() {
-        DUE.says("REFUSED", "The first of these in that order (comes)");
+        DUE.says("REFUSED", "The first of these in that order", "comes");
         IceTrade x = withBlocks(0f);
         DUE.due("-1 ahead of -2", x.comes(1, -1), -1);
         DUE.due("-1 ahead of -2", x.comes(-1, 301), -1);
@@ -283,7 +283,7 @@ public final class EdgesOfTheWayTest {
     }
 
     private static void comesChangesNothing() {
-        DUE.says("Promise 20", "What n BLOCKS that would be TAKEN from a ROOM COME to");
+        DUE.says("Promise 20", "What n BLOCKS (0 .. 300) that would be TAKEN from a ROOM COME to", "all lies as it did");
         IceTrade x = new IceTrade();
         Due.laidRoom(x, 0, 2, 1, 2);
         Due.warm(x, 0, 10f);
@@ -306,7 +306,7 @@ public final class EdgesOfTheWayTest {
     }
 
     private static void gramsToSend() {
-        DUE.says("Promise 21", "Grams (1 .. 100000000) .. -1");
+        DUE.says("Promise 21", "Grams (1 .. 100000000) are SENT from a ROOM", "-1");
         IceTrade x = withBlocks(0f, 1000);
         int[] bad = {0, -1, 100000001, WILD[0], WILD[1]};
         for (int grams : bad) {
@@ -324,7 +324,7 @@ public final class EdgesOfTheWayTest {
     }
 
     private static void sendFromNoRoom() {
-        DUE.says("Promise 21", "-2");
+        DUE.says("Promise 21", "-1; -2; -6: SHORT", "-2");
         IceTrade x = withBlocks(0f, 1000);
         int[] none = {-1, 1, 8, WILD[0], WILD[1]};
         for (int room : none) {
@@ -390,7 +390,7 @@ public final class EdgesOfTheWayTest {
     }
 
     private static void theOrderOfSend() {
-        DUE.says("REFUSED", "The first of these in that order (send)");
+        DUE.says("REFUSED", "The first of these in that order", "send");
         IceTrade x = withBlocks(0f);
         DUE.told(x, "-1 ahead of -2", x.send(1, 0), -1);
         DUE.told(x, "-1 ahead of -6", x.send(0, 100000001), -1);
@@ -458,7 +458,7 @@ public final class EdgesOfTheWayTest {
     }
 
     private static void billsAreCut() {
-        DUE.says("IV", "BILL: of each of them what it weighs as it is TAKEN times the PRICE of its kind .. / 1000, cut");
+        DUE.says("IV", "BILL: of each of them what it weighs as it is TAKEN times the PRICE of its kind [..] / 1000, cut");
         IceTrade x = withBlocks(-60f, 1999, 1999);
         x.price(0, 1);
         x.send(0, 3998);
@@ -501,7 +501,8 @@ public final class EdgesOfTheWayTest {
     }
 
     private static void theGreatestBill() {
-        DUE.says("Promise 24", "cents (0 .. 5000 ..) and Promise 6: 1000 .. 1000000 grams (their greatest product)");
+        DUE.says("Promise 24", "The PRICE of a kind for a kilo is cents (0 .. 5000; 0 at first)",
+            "5000 cents for 180 BLOCKS of 1000000 grams");
         IceTrade x = new IceTrade();
         Due.laidRoom(x, 0, 6, 6, 5);
         x.price(0, 5000);
@@ -521,7 +522,7 @@ public final class EdgesOfTheWayTest {
     }
 
     private static void kindsOfPrices() {
-        DUE.says("Promise 24", "The PRICE of a kind .. -1");
+        DUE.says("Promise 24", "The PRICE of a kind for a kilo is cents (0 .. 5000; 0 at first): 0; -1", "kind");
         IceTrade x = new IceTrade();
         int[] bad = {-1, 3, WILD[0], WILD[1]};
         for (int kind : bad) {
@@ -539,7 +540,7 @@ public final class EdgesOfTheWayTest {
     }
 
     private static void cents() {
-        DUE.says("Promise 24", "cents (0 .. 5000; ..): 0; -1");
+        DUE.says("Promise 24", "cents (0 .. 5000; 0 at first): 0; -1", "cents");
         int[] good = {0, 1, 4999, 5000};
         int[] bad = {-1, 5001, WILD[0], WILD[1]};
         for (int cents : good) {

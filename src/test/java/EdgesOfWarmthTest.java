@@ -44,7 +44,7 @@ public final class EdgesOfWarmthTest {
     }
 
     private static void outsideAtMost() {
-        DUE.says("I", "OUTSIDE of a day is a float -60 .. 60, as told by warm() (too large)");
+        DUE.says("I", "OUTSIDE of a day is a float -60 .. 60, as told by warm()", "too large");
         IceTrade x = new IceTrade();
         DUE.told(x, "just below 60", Due.warm(x, 0, Math.nextDown(60f)), 0);
         DUE.told(x, "60", Due.warm(x, 0, 60f), 0);
@@ -57,7 +57,7 @@ public final class EdgesOfWarmthTest {
     }
 
     private static void outsideAtLeast() {
-        DUE.says("I", "OUTSIDE of a day is a float -60 .. 60, as told by warm() (too small)");
+        DUE.says("I", "OUTSIDE of a day is a float -60 .. 60, as told by warm()", "too small");
         IceTrade x = new IceTrade();
         DUE.told(x, "just above -60", Due.warm(x, 0, Math.nextUp(-60f)), 0);
         DUE.told(x, "-60", Due.warm(x, 0, -60f), 0);
@@ -70,7 +70,7 @@ public final class EdgesOfWarmthTest {
     }
 
     private static void endlessOnes() {
-        DUE.says("Promise 11", "-1: .. not -60 .. 60 (endless ones are numbers)");
+        DUE.says("Promise 11", "-1: no such day, not -60 .. 60", "endless ones are numbers");
         IceTrade x = new IceTrade();
         Due.warm(x, 0, 4f);
         DUE.told(x, "endless", x.warm(0, 0x7F800000), -1);
@@ -79,7 +79,8 @@ public final class EdgesOfWarmthTest {
     }
 
     private static void notTold() {
-        DUE.says("I", "of one that isn't told .. it is that of the day ahead of it");
+        DUE.says("I", "of one that isn't told, or told as no number (not read), it is that of the day ahead of it",
+            "isn't told");
         IceTrade x = new IceTrade();
         Due.warm(x, 5, 7f);
         DUE.due("tenths(4): not of the day behind it", x.tenths(4), 0);
@@ -95,7 +96,8 @@ public final class EdgesOfWarmthTest {
     }
 
     private static void notRead() {
-        DUE.says("I", "or told as no number (not read), it is that of the day ahead of it");
+        DUE.says("I", "of one that isn't told, or told as no number (not read), it is that of the day ahead of it",
+            "told as no number");
         IceTrade x = new IceTrade();
         Due.warm(x, 3, 5f);
         Due.warm(x, 4, 6f);
@@ -139,7 +141,7 @@ public final class EdgesOfWarmthTest {
     }
 
     private static void noSuchDayForNoNumber() {
-        DUE.says("Promise 11", "-1: no such day (of no number too)");
+        DUE.says("Promise 11", "-1: no such day", "of no number too");
         IceTrade x = new IceTrade();
         DUE.told(x, "day -1", x.warm(-1, NO_NUMBER), -1);
         DUE.told(x, "day 200", x.warm(200, NO_NUMBER), -1);
@@ -152,7 +154,7 @@ public final class EdgesOfWarmthTest {
     }
 
     private static void cutToAWholeNumber() {
-        DUE.says("I", "TENTHS: OUTSIDE times 10.0 .., cut to a whole number");
+        DUE.says("I", "TENTHS: OUTSIDE times 10.0 (as floats), cut to a whole number", "cut");
         tenthsOf(0.09f, 0);
         tenthsOf(-0.09f, 0);
         tenthsOf(0.19f, 1);
@@ -167,7 +169,7 @@ public final class EdgesOfWarmthTest {
 
     /** 0.7f is 0.69999999 and a little: a wider product would be below 7, one of floats is 7. */
     private static void asFloats() {
-        DUE.says("I", "TENTHS: OUTSIDE times 10.0 (as floats)");
+        DUE.says("I", "TENTHS: OUTSIDE times 10.0 (as floats), cut to a whole number", "as floats");
         DUE.holds("a wider product is less", (int) (0.7f * 10.0) == 6);
         tenthsOf(0.7f, 7);
         tenthsOf(-0.7f, -7);
@@ -182,7 +184,7 @@ public final class EdgesOfWarmthTest {
     }
 
     private static void theSmallestFloats() {
-        DUE.says("Promise 11", "OUTSIDE of a day is the float with these bits (the smallest ones)");
+        DUE.says("Promise 11", "OUTSIDE of a day is the float with these bits", "the smallest ones");
         int[] all = {0x00000000, 0x80000000, 0x00000001, 0x80000001, 0x007FFFFF, 0x807FFFFF, 0x00800000, 0x80800000};
         for (int bits : all) {
             IceTrade x = new IceTrade();
