@@ -25,7 +25,7 @@ public final class EdgesOfRoomsTest {
         laidAlready();
         notTheOneBeneath();
         oneByOne();
-        theTopmostRow();
+        allThirtyRows();
         tearLayer();
         tearRow();
         tearInNoRoom();
@@ -325,7 +325,7 @@ public final class EdgesOfRoomsTest {
         }
     }
 
-    private static void theTopmostRow() {
+    private static void allThirtyRows() {
         DUE.says("II", "1 .. 6 rows (y) in a layer, 1 .. 5 layers (z) from below", "all 30 ROWS");
         IceTrade x = withRoom(6, 6, 5);
         for (int layer = 0; layer < 5; layer++) {
