@@ -1,13 +1,16 @@
+import java.util.HashSet;
+import java.util.Set;
+
 /** Counts and prints answers that are not the ones that are due. */
 final class Due {
     private String sentence = "";
-    private int sentences;
+    private final Set<String> sentences = new HashSet<>();
     private int wrong;
 
     /** The sentence of the document that the answers from here on are held against; [..] stands for what is left out. */
     void says(String where, String itsSentence) {
         sentence = " [" + where + ": " + itsSentence + "]";
-        sentences++;
+        sentences.add(sentence);
     }
 
     /** A sentence, and which of its edges it is. */
@@ -36,7 +39,7 @@ final class Due {
     }
 
     void end() {
-        String held = sentences == 0 ? "" : ", held against " + sentences + " sentences";
+        String held = sentences.isEmpty() ? "" : ", held against " + sentences.size() + " sentences";
         System.out.println((wrong == 0 ? "all answers are as due" : wrong + " answers are not as due") + held);
         if (wrong != 0) {
             System.exit(1);
